@@ -2,6 +2,12 @@
 final class Checks {
     private int made = 0;
     private int wrong = 0;
+    private String sentence = "";
+
+    /** The sentence of the document that the checks behind this call are of. */
+    void sentence(String text) {
+        sentence = "[" + text + "] ";
+    }
 
     void same(String what, long got, long due) {
         made++;
@@ -29,7 +35,7 @@ final class Checks {
         throwing(what, UnsupportedOperationException.class, call);
     }
 
-    private void throwing(String what, Class<? extends RuntimeException> due, Runnable call) {
+    void throwing(String what, Class<? extends RuntimeException> due, Runnable call) {
         made++;
         try {
             call.run();
@@ -43,7 +49,7 @@ final class Checks {
 
     private void report(String text) {
         wrong++;
-        System.out.println(text);
+        System.out.println(sentence + text);
     }
 
     void finish() {

@@ -1,9 +1,45 @@
 /** A CoapDesk with shorter ways to put bytes in and to see all that it holds, as hexadecimal texts. */
 final class Desk {
-    final CoapDesk desk = new CoapDesk();
+    final Counted desk = new Counted();
+
+    /** A call that takes the lowest bytes of a word. */
+    private interface Taker {
+        void take(long word, int n);
+    }
 
     static String hex(int octet) {
         return String.format("%02x", octet);
+    }
+
+    /** The bytes of a text, as hexadecimal digits. */
+    static String hexOf(String text) {
+        StringBuilder digits = new StringBuilder();
+        for (char c : text.toCharArray()) {
+            digits.append(hex(c));
+        }
+        return digits.toString();
+    }
+
+    /** Two bytes, the high one first. */
+    static String hexOfTwo(int number) {
+        return hex(number / 256) + hex(number % 256);
+    }
+
+    /** Hands out the bytes of a hexadecimal text, as many in a call as a word can hold, from byte number first on. */
+    private static void inWords(String hexText, int first, Taker taker) {
+        String digits = hexText.replace(" ", "");
+        for (int i = 2 * first; i < digits.length(); i += 16) {
+            String part = digits.substring(i, Math.min(i + 16, digits.length()));
+            taker.take(lowFirst(part), part.length() / 2);
+        }
+    }
+
+    private static long lowFirst(String digits) {
+        long word = 0;
+        for (int i = digits.length() - 2; i >= 0; i -= 2) {
+            word = word << 8 | Integer.parseInt(digits.substring(i, i + 2), 16);
+        }
+        return word;
     }
 
     /** Puts the bytes of a hexadecimal text at hand, in place of those that were. */
@@ -13,10 +49,7 @@ final class Desk {
     }
 
     Desk more(String hexText) {
-        String digits = hexText.replace(" ", "");
-        for (int i = 0; i < digits.length(); i += 2) {
-            desk.feed(Integer.parseInt(digits.substring(i, i + 2), 16), 1);
-        }
+        inWords(hexText, 0, desk::feed);
         return this;
     }
 
@@ -41,51 +74,38 @@ final class Desk {
     /** Puts an option whose value is the bytes of a hexadecimal text. */
     Desk option(int number, String hexText) {
         String digits = hexText.replace(" ", "");
-        desk.option(number, 0L, 0);
-        for (int i = 0; i < digits.length(); i += 2) {
-            desk.longer(Integer.parseInt(digits.substring(i, i + 2), 16), 1);
-        }
+        String first = digits.substring(0, Math.min(16, digits.length()));
+        desk.option(number, lowFirst(first), first.length() / 2);
+        inWords(digits, 8, desk::longer);
         return this;
     }
 
     Desk longOption(int number, int n) {
-        desk.option(number, 0L, 0);
-        for (int left = n; left > 0; left -= 8) {
-            desk.longer(0x1122334455667788L, Math.min(left, 8));
-        }
-        return this;
+        return option(number, "8877665544332211".repeat(n / 8 + 1).substring(0, 2 * n));
     }
 
     /** The options 11 of a path told with slashes; an empty text is the empty path. */
     Desk path(String path) {
         if (!path.isEmpty()) {
             for (String value : path.split("/", -1)) {
-                StringBuilder text = new StringBuilder();
-                for (char c : value.toCharArray()) {
-                    text.append(hex(c));
-                }
-                option(11, text.toString());
+                option(11, hexOf(value));
             }
         }
         return this;
     }
 
     Desk payload(String text) {
-        for (char c : text.toCharArray()) {
-            desk.payload(c, 1);
-        }
+        inWords(hexOf(text), 0, desk::payload);
         return this;
     }
 
     /** A payload of n bytes 0, 1, 2 .. (modulo 256), eight in a call. */
     Desk counted(int n) {
-        for (int i = 0; i < n; i += 8) {
-            long word = 0;
-            for (int b = 7; b >= 0; b--) {
-                word = word << 8 | (i + b & 255);
-            }
-            desk.payload(word, Math.min(8, n - i));
+        StringBuilder digits = new StringBuilder();
+        for (int i = 0; i < n; i++) {
+            digits.append(hex(i % 256));
         }
+        inWords(digits.toString(), 0, desk::payload);
         return this;
     }
 
@@ -96,7 +116,18 @@ final class Desk {
 
     String atHand() {
         StringBuilder text = new StringBuilder();
-        for (int i = 0; desk.hand(i) != CoapDesk.NONE; i++) {
+        int octet = desk.hand(0);
+        for (int i = 1; octet != CoapDesk.NONE; i++) {
+            text.append(hex(octet));
+            octet = desk.hand(i);
+        }
+        return text.toString();
+    }
+
+    /** The bytes at hand from number from up to, but not with, number to. */
+    String atHand(int from, int to) {
+        StringBuilder text = new StringBuilder();
+        for (int i = from; i < to; i++) {
             text.append(hex(desk.hand(i)));
         }
         return text.toString();
@@ -104,8 +135,10 @@ final class Desk {
 
     String part(int part) {
         StringBuilder text = new StringBuilder();
-        for (int i = 0; desk.byteOf(part, i) != CoapDesk.NONE; i++) {
-            text.append(hex(desk.byteOf(part, i)));
+        int octet = desk.byteOf(part, 0);
+        for (int i = 1; octet != CoapDesk.NONE; i++) {
+            text.append(hex(octet));
+            octet = desk.byteOf(part, i);
         }
         return text.toString();
     }
@@ -115,10 +148,20 @@ final class Desk {
         StringBuilder text = new StringBuilder();
         text.append(desk.about(0)).append(' ').append(desk.about(1)).append(' ').append(desk.about(2));
         text.append(" t").append(part(CoapDesk.NONE));
-        for (int k = 0; k < desk.about(4); k++) {
+        int options = desk.about(4);
+        for (int k = 0; k < options; k++) {
             text.append(' ').append(desk.optionAt(k, 0)).append('=').append(part(k));
         }
         return text.append(" p").append(part(-2)).toString();
+    }
+
+    /** What about(0) .. about(5) answer: type, code, ID, and how many the token, options and payload are. */
+    String abouts() {
+        StringBuilder text = new StringBuilder();
+        for (int what = 0; what <= 5; what++) {
+            text.append(what > 0 ? " " : "").append(desk.about(what));
+        }
+        return text.toString();
     }
 
     /** What total(1) .. total(5) answer: resources, tags, served, repeated, the next own ID. */
@@ -133,7 +176,8 @@ final class Desk {
     /** Of each resource: how long its path is, its contents, its tag. */
     String resources() {
         StringBuilder text = new StringBuilder();
-        for (int k = 0; k < desk.total(1); k++) {
+        int count = desk.total(1);
+        for (int k = 0; k < count; k++) {
             text.append(k > 0 ? " " : "").append(desk.resource(k, 0)).append(':').append(desk.resource(k, 1));
             text.append(':').append(desk.resource(k, 2));
         }

@@ -256,23 +256,19 @@ public final class ServeTest {
         CHECKS.same("its values", large.resources(), "2:0:1 3:0:2");
     }
 
-    /** A PUT of 2000 bytes whose path has 20 values, the last byte of all as told. */
-    private static Desk longestPath(Desk d, int id, int lastByte) {
-        d.fed("4003").more(Desk.hex(id / 256) + Desk.hex(id % 256));
-        for (int k = 0; k < 20; k++) {
-            int length = k < 16 ? 98 : 97;
-            d.more((k == 0 ? "bd" : "0d") + Desk.hex(length - 13)).times(k, length);
-        }
-        d.desk.end(1999);
-        d.desk.feed(lastByte, 1);
-        return d;
-    }
-
+    /** Peers send a PUT of 2000 bytes, all of them path; that of peer 1 ends with another byte. */
     private static void longestPaths() {
-        Desk d = new Desk();
-        CHECKS.same("the longest path", longestPath(d, 1, 1).desk.serve(0), 65);
-        CHECKS.same("another in its last byte", longestPath(d, 2, 2).desk.serve(0), 65);
-        CHECKS.same("the first again", longestPath(d, 3, 1).desk.serve(0), 68);
+        Desk d = new Desk().begun(0, PUT, 1);
+        for (int k = 0; k < 20; k++) {
+            d.longOption(11, k < 16 ? 98 : 97);
+        }
+        CHECKS.same("bytes", d.desk.write(), 2000);
+        CHECKS.same("the longest path", d.desk.serve(0), 65);
+        d.desk.write();
+        d.desk.end(1999);
+        d.desk.feed(2, 1);
+        CHECKS.same("another in its last byte", d.desk.serve(1), 65);
+        CHECKS.same("the first again", d.served(2), 68);
         CHECKS.same("their values", d.resources(), "20:0:3 20:0:2");
     }
 
@@ -488,15 +484,6 @@ public final class ServeTest {
         CHECKS.same("the count", d.desk.total(2), 120);
         CHECKS.same("the tag", d.desk.resource(0, 2), 120);
         CHECKS.same("GET of it", d.begun(0, GET, 200).option(4, "0078").served(0), 67);
-        CHECKS.same("a tag above 255", manyTags(), "420101");
-    }
-
-    private static String manyTags() {
-        Desk d = new Desk();
-        for (int i = 1; i <= 257; i++) {
-            d.begun(1, PUT, i).served(i % 10);
-        }
-        return d.atHand().substring(8);
     }
 
     private static void totals() {
