@@ -3,9 +3,6 @@ public final class BytesEdgesTest {
     private static final Checks CHECKS = new Checks();
     private static final long WORD = 0xf8e7d6c5b4a39281L;
     private static final String WORD_BYTES = "8192a3b4c5d6e7f8";
-    private static final int[] FAR = {
-        Integer.MIN_VALUE, Integer.MAX_VALUE, Integer.MIN_VALUE + 1, -65536, -256, -2, 65536, 1 << 24,
-    };
     private static final String GET = "40010000 ";
 
     public static void main(String[] args) {
@@ -18,6 +15,7 @@ public final class BytesEdgesTest {
         writeInPlace();
         writeStaysBegun();
         writeLimit();
+        writeLimitOfHead();
         feedLength();
         feedLimit();
         endRange();
@@ -211,6 +209,25 @@ public final class BytesEdgesTest {
         CHECKS.same("nothing at hand still", most.desk.total(0), 0);
     }
 
+    private static void writeLimitOfHead() {
+        CHECKS.sentence("6: more than 2000, with each byte of what is WRITTEN before the values counted");
+        int[][] rows = {{0, 0}, {12, 0}, {13, 1}, {268, 1}, {269, 2}, {65535, 2}};
+        for (int[] row : rows) {
+            for (int token = 0; token <= 8; token += 8) {
+                Desk d = new Desk();
+                d.desk.begin(0, 1, 0, -1L, token);
+                for (int k = 0; k < 4; k++) {
+                    d.longOption(row[0], 400);
+                }
+                d.longOption(row[0], 381 - token - row[1]);
+                CHECKS.same("2000 with options " + row[0] + ", a token of " + token, d.desk.write(), 2000);
+                CHECKS.same("the last byte", d.desk.hand(1999), d.desk.byteOf(4, 381 - token - row[1] - 1));
+                d.desk.longer(0, 1);
+                CHECKS.illegalState("2001 with options " + row[0] + ", a token of " + token, d.desk::write);
+            }
+        }
+    }
+
     private static void feedLength() {
         CHECKS.sentence("7: n is not 0 .. 8; n bytes come behind those at hand: how many these are");
         Desk d = new Desk();
@@ -221,7 +238,7 @@ public final class BytesEdgesTest {
         }
         CHECKS.illegalArgument("9", () -> d.desk.feed(WORD, 9));
         CHECKS.illegalArgument("-1", () -> d.desk.feed(WORD, -1));
-        for (int far : FAR) {
+        for (int far : Checks.FAR) {
             CHECKS.illegalArgument("" + far, () -> d.desk.feed(WORD, far));
         }
         CHECKS.same("the bytes", d.atHand(), due.toString());
@@ -257,7 +274,7 @@ public final class BytesEdgesTest {
         CHECKS.same("2000 of 2000", d.desk.total(0), 2000);
         CHECKS.illegalArgument("2001 of 2000", () -> d.desk.end(2001));
         CHECKS.illegalArgument("-1 of 2000", () -> d.desk.end(-1));
-        for (int far : FAR) {
+        for (int far : Checks.FAR) {
             CHECKS.illegalArgument(far + " of 2000", () -> d.desk.end(far));
         }
         CHECKS.same("they stay", d.desk.total(0), 2000);

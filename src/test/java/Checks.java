@@ -1,5 +1,10 @@
 /** Counts what is not as due, prints it, and ends a test with exit code 1 if there was any. */
 final class Checks {
+    /** Numbers that no range of the document holds, most of them 0 if their highest bits are lost. */
+    static final int[] FAR = {
+        Integer.MIN_VALUE, Integer.MAX_VALUE, Integer.MIN_VALUE + 1, -65536, -256, -2, 65536, 1 << 24,
+    };
+
     private int made = 0;
     private int wrong = 0;
     private String sentence = "";

@@ -71,6 +71,11 @@ final class Desk {
         return this;
     }
 
+    /** A confirmable request of a path, begun; what it asks for comes behind. */
+    Desk ask(int code, int id, String path) {
+        return begun(0, code, id).path(path);
+    }
+
     /** Puts an option whose value is the bytes of a hexadecimal text. */
     Desk option(int number, String hexText) {
         String digits = hexText.replace(" ", "");

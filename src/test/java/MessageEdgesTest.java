@@ -4,10 +4,6 @@ public final class MessageEdgesTest {
     private static final long WORD = 0xf8e7d6c5b4a39281L;
     /** The bytes of that word, the lowest first. */
     private static final String WORD_BYTES = "8192a3b4c5d6e7f8";
-    /** Numbers that no range of the document holds, most of them 0 if their highest bits are lost. */
-    private static final int[] FAR = {
-        Integer.MIN_VALUE, Integer.MAX_VALUE, Integer.MIN_VALUE + 1, -65536, -256, -2, 65536, 1 << 24,
-    };
 
     public static void main(String[] args) {
         newObject();
@@ -91,7 +87,7 @@ public final class MessageEdgesTest {
         }
         CHECKS.illegalArgument("4", () -> d.desk.begin(4, 1, 1, 0, 0));
         CHECKS.illegalArgument("-1", () -> d.desk.begin(-1, 1, 1, 0, 0));
-        for (int far : FAR) {
+        for (int far : Checks.FAR) {
             CHECKS.illegalArgument("" + far, () -> d.desk.begin(far, 1, 1, 0, 0));
         }
         CHECKS.same("the type stays", d.desk.about(0), 3);
@@ -106,7 +102,7 @@ public final class MessageEdgesTest {
         }
         CHECKS.illegalArgument("256", () -> d.desk.begin(1, 256, 1, 0, 0));
         CHECKS.illegalArgument("-1", () -> d.desk.begin(1, -1, 1, 0, 0));
-        for (int far : FAR) {
+        for (int far : Checks.FAR) {
             CHECKS.illegalArgument("" + far, () -> d.desk.begin(1, far, 1, 0, 0));
         }
         CHECKS.same("the code stays", d.desk.about(1), 255);
@@ -121,7 +117,7 @@ public final class MessageEdgesTest {
         }
         CHECKS.illegalArgument("65536", () -> d.desk.begin(1, 1, 65536, 0, 0));
         CHECKS.illegalArgument("-1", () -> d.desk.begin(1, 1, -1, 0, 0));
-        for (int far : FAR) {
+        for (int far : Checks.FAR) {
             CHECKS.illegalArgument("" + far, () -> d.desk.begin(1, 1, far, 0, 0));
         }
         CHECKS.same("the ID stays", d.desk.about(2), 65535);
@@ -136,7 +132,7 @@ public final class MessageEdgesTest {
         }
         CHECKS.illegalArgument("9", () -> d.desk.begin(1, 1, 1, WORD, 9));
         CHECKS.illegalArgument("-1", () -> d.desk.begin(1, 1, 1, WORD, -1));
-        for (int far : FAR) {
+        for (int far : Checks.FAR) {
             CHECKS.illegalArgument("" + far, () -> d.desk.begin(1, 1, 1, WORD, far));
         }
         CHECKS.same("the token stays", d.part(-1), WORD_BYTES);
@@ -191,7 +187,7 @@ public final class MessageEdgesTest {
         }
         CHECKS.illegalArgument("65536", () -> d.desk.option(65536, 0, 0));
         CHECKS.illegalArgument("-1", () -> d.desk.option(-1, 0, 0));
-        for (int far : FAR) {
+        for (int far : Checks.FAR) {
             CHECKS.illegalArgument("" + far, () -> d.desk.option(far, 0, 0));
         }
         CHECKS.same("no more were put", d.desk.about(4), numbers.length);
@@ -206,7 +202,7 @@ public final class MessageEdgesTest {
         }
         CHECKS.illegalArgument("9", () -> d.desk.option(9, WORD, 9));
         CHECKS.illegalArgument("-1", () -> d.desk.option(9, WORD, -1));
-        for (int far : FAR) {
+        for (int far : Checks.FAR) {
             CHECKS.illegalArgument("" + far, () -> d.desk.option(9, WORD, far));
         }
         CHECKS.same("no more were put", d.desk.about(4), 9);
@@ -282,7 +278,7 @@ public final class MessageEdgesTest {
         }
         CHECKS.illegalArgument("9", () -> d.desk.longer(WORD, 9));
         CHECKS.illegalArgument("-1", () -> d.desk.longer(WORD, -1));
-        for (int far : FAR) {
+        for (int far : Checks.FAR) {
             CHECKS.illegalArgument("" + far, () -> d.desk.longer(WORD, far));
         }
         CHECKS.same("the value", d.part(0), due.toString());
@@ -377,7 +373,7 @@ public final class MessageEdgesTest {
         }
         CHECKS.illegalArgument("9", () -> d.desk.payload(WORD, 9));
         CHECKS.illegalArgument("-1", () -> d.desk.payload(WORD, -1));
-        for (int far : FAR) {
+        for (int far : Checks.FAR) {
             CHECKS.illegalArgument("" + far, () -> d.desk.payload(WORD, far));
         }
         CHECKS.same("the payload", d.part(-2), due.toString());
@@ -424,7 +420,7 @@ public final class MessageEdgesTest {
         CHECKS.same("0 .. 5", d.abouts(), "2 69 4660 5 2 3");
         CHECKS.illegalArgument("-1", () -> d.desk.about(-1));
         CHECKS.illegalArgument("6", () -> d.desk.about(6));
-        for (int far : FAR) {
+        for (int far : Checks.FAR) {
             CHECKS.illegalArgument("" + far, () -> d.desk.about(far));
         }
     }
@@ -450,7 +446,7 @@ public final class MessageEdgesTest {
         CHECKS.same("the token", d.desk.byteOf(-1, 0), 0x11);
         CHECKS.same("the payload", d.desk.byteOf(-2, 0), 'z');
         CHECKS.illegalArgument("-3", () -> d.desk.byteOf(-3, 0));
-        for (int far : FAR) {
+        for (int far : Checks.FAR) {
             if (far != -2) {
                 CHECKS.illegalArgument("" + far, () -> d.desk.byteOf(far, 0));
                 CHECKS.illegalArgument(far + ", a byte behind all", () -> d.desk.byteOf(far, 400));
@@ -497,7 +493,7 @@ public final class MessageEdgesTest {
             CHECKS.illegalArgument("option " + behind, () -> d.desk.optionAt(behind, 0));
         }
         CHECKS.illegalArgument("-1", () -> d.desk.optionAt(-1, 0));
-        for (int far : FAR) {
+        for (int far : Checks.FAR) {
             CHECKS.illegalArgument("" + far, () -> d.desk.optionAt(far, 0));
         }
     }
@@ -513,7 +509,7 @@ public final class MessageEdgesTest {
         CHECKS.same("no whole number", d.desk.optionAt(1, 2), -1);
         CHECKS.illegalArgument("-1", () -> d.desk.optionAt(0, -1));
         CHECKS.illegalArgument("3", () -> d.desk.optionAt(0, 3));
-        for (int far : FAR) {
+        for (int far : Checks.FAR) {
             CHECKS.illegalArgument("" + far, () -> d.desk.optionAt(0, far));
         }
     }

@@ -7,9 +7,6 @@ public final class ResourceEdgesTest {
     private static final int POST = 2;
     private static final int PUT = 3;
     private static final int DELETE = 4;
-    private static final int[] FAR = {
-        Integer.MIN_VALUE, Integer.MAX_VALUE, Integer.MIN_VALUE + 1, -65536, -256, -2, 65536, 1 << 24,
-    };
 
     public static void main(String[] args) {
         getWithout();
@@ -24,8 +21,10 @@ public final class ResourceEdgesTest {
         ifMatch();
         ifMatchWithout();
         ifNoneMatch();
+        twentyConditions();
         putContents();
         putMade();
+        contentsAreKept();
         sixteen();
         postWithout();
         postLimit();
@@ -34,6 +33,7 @@ public final class ResourceEdgesTest {
         tagsGoUp();
         tagsStay();
         pathValues();
+        pathLengths();
         pathLongest();
         order();
         totalWhat();
@@ -43,30 +43,25 @@ public final class ResourceEdgesTest {
         CHECKS.finish();
     }
 
-    /** A confirmable request, begun; what it asks for comes behind. */
-    private static Desk ask(Desk d, int code, int id, String path) {
-        return d.begun(0, code, id).path(path);
-    }
-
     /** A desk with one resource "a" of n bytes 0, 1, 2 .., with tag 1, put by peer 0 with ID 1. */
     private static Desk withContents(int n) {
         Desk d = new Desk();
-        ask(d, PUT, 1, "a").counted(n).served(0);
+        d.ask(PUT, 1, "a").counted(n).served(0);
         return d;
     }
 
     private static void getWithout() {
         CHECKS.sentence("GET: 132, without such a resource");
         Desk d = new Desk();
-        CHECKS.same("of none", ask(d, GET, 1, "").served(0), 132);
+        CHECKS.same("of none", d.ask(GET, 1, "").served(0), 132);
         CHECKS.same("what is sent", d.atHand(), "60840001");
-        ask(d, PUT, 2, "a").served(0);
+        d.ask(PUT, 2, "a").served(0);
         for (String path : new String[] {"", "b", "aa", "a/a", "a/", "/a", "A"}) {
-            CHECKS.same("of [" + path + "]", ask(d, GET, 10 + path.length(), path).served(1 + path.length()), 132);
+            CHECKS.same("of [" + path + "]", d.ask(GET, 10 + path.length(), path).served(1 + path.length()), 132);
         }
-        CHECKS.same("of [a]", ask(d, GET, 20, "a").served(0), 69);
-        ask(d, DELETE, 21, "a").served(0);
-        CHECKS.same("of one that is gone", ask(d, GET, 22, "a").served(0), 132);
+        CHECKS.same("of [a]", d.ask(GET, 20, "a").served(0), 69);
+        d.ask(DELETE, 21, "a").served(0);
+        CHECKS.same("of one that is gone", d.ask(GET, 22, "a").served(0), 132);
     }
 
     private static void getTag() {
@@ -77,21 +72,21 @@ public final class ResourceEdgesTest {
         };
         for (Object[] row : rows) {
             Desk d = withContents(2);
-            CHECKS.same("4 = " + row[0], ask(d, GET, 2, "a").option(4, (String) row[0]).served(0), (Integer) row[1]);
+            CHECKS.same("4 = " + row[0], d.ask(GET, 2, "a").option(4, (String) row[0]).served(0), (Integer) row[1]);
             CHECKS.same("what is sent", d.atHand(), (Integer) row[1] == 67 ? "60430002420001" : "60450002420001ff0001");
         }
         for (int place = 0; place < 19; place++) {
             Desk d = withContents(2);
-            ask(d, GET, 2, "a");
+            d.ask(GET, 2, "a");
             for (int k = 0; k < 19; k++) {
                 d.option(4, k == place ? "0001" : "00");
             }
             CHECKS.same("as number " + place + " of 19", d.served(0), 67);
         }
         Desk d = withContents(400);
-        ask(d, PUT, 2, "a").counted(400).served(0);
-        CHECKS.same("the tag that was", ask(d, GET, 3, "a").option(4, "0001").served(0), 69);
-        CHECKS.same("the tag that is", ask(d, GET, 4, "a").option(4, "0002").served(0), 67);
+        d.ask(PUT, 2, "a").counted(400).served(0);
+        CHECKS.same("the tag that was", d.ask(GET, 3, "a").option(4, "0001").served(0), 69);
+        CHECKS.same("the tag that is", d.ask(GET, 4, "a").option(4, "0002").served(0), 67);
         CHECKS.same("without contents", d.atHand(), "60430004420002");
     }
 
@@ -99,12 +94,12 @@ public final class ResourceEdgesTest {
         CHECKS.sentence("GET: 69, with the tag, and the contents: by BLOCKS, if it has an option 23, or they are longer than 64 bytes");
         for (int n : new int[] {0, 1, 63, 64}) {
             Desk d = withContents(n);
-            CHECKS.same(n + " bytes", ask(d, GET, 2, "a").served(0), 69);
+            CHECKS.same(n + " bytes", d.ask(GET, 2, "a").served(0), 69);
             CHECKS.same("how many are sent", d.desk.total(0), n == 0 ? 7 : 8 + n);
             CHECKS.same("the tag", d.atHand(0, 7), "60450002420001");
             CHECKS.same("then 255", d.desk.hand(7), n == 0 ? -1 : 255);
             CHECKS.same("the last", d.desk.hand(7 + n), n == 0 ? -1 : n - 1);
-            CHECKS.same("with a 23", ask(d, GET, 3, "a").option(23, "06").served(0), 69);
+            CHECKS.same("with a 23", d.ask(GET, 3, "a").option(23, "06").served(0), 69);
             CHECKS.same("the block is told", d.atHand(0, 10), "60450003420001" + "d10606");
             CHECKS.same("how many are sent then", d.desk.total(0), n == 0 ? 10 : 11 + n);
         }
@@ -114,7 +109,7 @@ public final class ResourceEdgesTest {
         CHECKS.sentence("GET: S 2 without, N 0 without");
         for (int n : new int[] {65, 128, 400}) {
             Desk d = withContents(n);
-            CHECKS.same(n + " bytes", ask(d, GET, 2, "a").served(0), 69);
+            CHECKS.same(n + " bytes", d.ask(GET, 2, "a").served(0), 69);
             CHECKS.same("block 0 of 64, more behind", d.atHand(0, 12), "60450002420001" + "d1060a" + "ff00");
             CHECKS.same("64 of them", d.desk.total(0), 11 + 64);
             CHECKS.same("the last", d.desk.hand(11 + 63), 63);
@@ -123,7 +118,7 @@ public final class ResourceEdgesTest {
 
     /** GET of "a" with an option 23: the code, option 23 of the answer, the first byte of the payload, how long it is. */
     private static String block(Desk d, int id, String asked) {
-        int code = ask(d, GET, id, "a").option(23, asked).served(9);
+        int code = d.ask(GET, id, "a").option(23, asked).served(9);
         CHECKS.same("options", d.desk.read(), code == 69 ? 2 : 0);
         if (code != 69) {
             CHECKS.same("no payload", d.desk.about(5), 0);
@@ -173,7 +168,8 @@ public final class ResourceEdgesTest {
         CHECKS.sentence("GET: 130 if N B is beyond their end (or at it, but for N = 0)");
         String[][] rows = {
             {"0", "", "69  -1 0"}, {"0", "00", "69  -1 0"}, {"0", "08", "69  -1 0"}, {"0", "02", "69 02 -1 0"}, {"0", "06", "69 06 -1 0"},
-            {"0", "10", "130"}, {"0", "16", "130"}, {"1", "10", "130"}, {"15", "10", "130"}, {"16", "10", "130"}, {"17", "10", "69 10 16 1"},
+            {"0", "10", "130"}, {"0", "16", "130"}, {"1", "10", "130"}, {"15", "10", "130"}, {"16", "10", "130"},
+            {"17", "10", "69 10 16 1"},
             {"31", "20", "130"}, {"32", "20", "130"}, {"33", "20", "69 20 32 1"}, {"64", "12", "130"}, {"65", "12", "69 12 64 1"},
             {"128", "13", "130"}, {"129", "13", "69 13 128 1"}, {"256", "14", "130"}, {"257", "14", "69 14 0 1"}, {"400", "15", "130"},
             {"400", "16", "130"}, {"400", "0190", "130"}, {"400", "24", "130"}, {"384", "0180", "130"}, {"385", "0180", "69 0180 128 1"},
@@ -199,7 +195,8 @@ public final class ResourceEdgesTest {
     private static void blockMoreBit() {
         CHECKS.sentence("GET: the block is number N (that number by 16), whether or not it has 8 in it");
         String[][] rows = {
-            {"16", "08", "69  0 16"}, {"17", "08", "69 08 0 16"}, {"32", "18", "69 10 16 16"}, {"33", "18", "69 18 16 16"}, {"16", "18", "130"},
+            {"16", "08", "69  0 16"}, {"17", "08", "69 08 0 16"}, {"32", "18", "69 10 16 16"}, {"33", "18", "69 18 16 16"},
+            {"16", "18", "130"},
             {"65", "0a", "69 0a 0 64"}, {"65", "1a", "69 12 64 1"}, {"0", "0e", "69 06 -1 0"},
         };
         for (String[] row : rows) {
@@ -221,14 +218,14 @@ public final class ResourceEdgesTest {
             for (Object[] row : rows) {
                 Desk d = withContents(2);
                 boolean met = (Boolean) row[1];
-                CHECKS.same("code " + code + ", 1 = " + row[0], ask(d, code, 2, "a").option(1, (String) row[0]).payload("x").served(0),
+                CHECKS.same("code " + code + ", 1 = " + row[0], d.ask(code, 2, "a").option(1, (String) row[0]).payload("x").served(0),
                     met ? done(code) : 140);
                 CHECKS.same("what is sent", d.atHand(), met ? code == DELETE ? "60420002" : "60440002420002" : "608c0002");
                 CHECKS.same("the resource", d.resources(), !met ? "1:2:1" : code == DELETE ? "" : code == PUT ? "1:1:2" : "1:3:2");
             }
             for (int place = 0; place < 19; place++) {
                 Desk d = withContents(2);
-                ask(d, code, 2, "a");
+                d.ask(code, 2, "a");
                 for (int k = 0; k < 19; k++) {
                     d.option(1, k == place ? (place % 2 == 0 ? "0001" : "") : "0009");
                 }
@@ -241,10 +238,10 @@ public final class ResourceEdgesTest {
         CHECKS.sentence("POST, PUT, DELETE: 140, if it has options 1, or there is no resource");
         for (int code = POST; code <= DELETE; code++) {
             Desk d = withContents(2);
-            CHECKS.same("code " + code + ", empty", ask(d, code, 2, "b").option(1, "").served(0), 140);
-            CHECKS.same("code " + code + ", a tag of another", ask(d, code, 3, "b").option(1, "0001").served(0), 140);
-            CHECKS.same("code " + code + ", the next tag", ask(d, code, 4, "b").option(1, "0002").served(0), 140);
-            CHECKS.same("code " + code + ", no options 1", ask(d, code, 5, "b").served(0), code == POST ? 132 : code == PUT ? 65 : 66);
+            CHECKS.same("code " + code + ", empty", d.ask(code, 2, "b").option(1, "").served(0), 140);
+            CHECKS.same("code " + code + ", a tag of another", d.ask(code, 3, "b").option(1, "0001").served(0), 140);
+            CHECKS.same("code " + code + ", the next tag", d.ask(code, 4, "b").option(1, "0002").served(0), 140);
+            CHECKS.same("code " + code + ", no options 1", d.ask(code, 5, "b").served(0), code == POST ? 132 : code == PUT ? 65 : 66);
             CHECKS.same("the others were refused", d.desk.total(1), code == PUT ? 2 : 1);
         }
     }
@@ -253,16 +250,64 @@ public final class ResourceEdgesTest {
         CHECKS.sentence("POST, PUT, DELETE: 140, or an option 5, and there is one");
         for (int code = POST; code <= DELETE; code++) {
             Desk d = withContents(2);
-            CHECKS.same("code " + code + " with one", ask(d, code, 2, "a").option(5, "").payload("x").served(0), 140);
+            CHECKS.same("code " + code + " with one", d.ask(code, 2, "a").option(5, "").payload("x").served(0), 140);
             CHECKS.same("what is sent", d.atHand(), "608c0002");
-            CHECKS.same("and a value", ask(d, code, 3, "a").option(5, "ff").served(0), 140);
-            CHECKS.same("and a 1 that is met", ask(d, code, 4, "a").option(5, "").option(1, "0001").served(0), 140);
-            CHECKS.same("and a 1 that is empty", ask(d, code, 5, "a").option(5, "").option(1, "").served(0), 140);
+            CHECKS.same("and a value", d.ask(code, 3, "a").option(5, "ff").served(0), 140);
+            CHECKS.same("and a 1 that is met", d.ask(code, 4, "a").option(5, "").option(1, "0001").served(0), 140);
+            CHECKS.same("and a 1 that is empty", d.ask(code, 5, "a").option(5, "").option(1, "").served(0), 140);
             CHECKS.same("nothing is changed", d.resources(), "1:2:1");
-            CHECKS.same("without one, and a 1", ask(d, code, 6, "b").option(5, "").option(1, "").served(0), 140);
-            CHECKS.same("without one", ask(d, code, 7, "b").option(5, "").served(0), code == POST ? 132 : code == PUT ? 65 : 66);
-            CHECKS.same("GET with one", ask(d, GET, 8, "a").option(5, "").option(1, "0009").served(0), 69);
+            CHECKS.same("without one, and a 1", d.ask(code, 6, "b").option(5, "").option(1, "").served(0), 140);
+            CHECKS.same("without one", d.ask(code, 7, "b").option(5, "").served(0), code == POST ? 132 : code == PUT ? 65 : 66);
+            CHECKS.same("GET with one", d.ask(GET, 8, "a").option(5, "").option(1, "0009").served(0), 69);
         }
+    }
+
+    private static void twentyConditions() {
+        CHECKS.sentence("GET, POST, PUT, DELETE: one of its options 4; none of these options 1 (as many as it can have)");
+        for (int code = GET; code <= DELETE; code++) {
+            int number = code == GET ? 4 : 1;
+            int met = code == GET ? 67 : done(code);
+            int unmet = code == GET ? 69 : 140;
+            Desk d = new Desk().begun(0, PUT, 1);
+            d.served(0);
+            d.begun(0, code, 2);
+            for (int k = 0; k < 20; k++) {
+                d.option(number, "0009");
+            }
+            CHECKS.same("code " + code + ", 20 that are not met", d.served(0), unmet);
+            CHECKS.same("none is left of another message", d.begun(0, code, 3).option(number, "0009").option(number, "0001")
+                .fed("40" + Desk.hex(code) + "0004" + (code == GET ? "420009" : "120009")).desk.serve(0), unmet);
+            CHECKS.same("one of two", d.begun(0, code == DELETE ? PUT : code, 5).option(number, "0009").option(number, "0001").served(0),
+                code == DELETE ? 68 : met);
+            CHECKS.same("none is left of the one before", d.begun(0, code, 6).option(number, "0009").served(0), unmet);
+        }
+    }
+
+    private static void contentsAreKept() {
+        CHECKS.sentence("PUT: the payload becomes the contents (and they stay, whatever the message and the bytes become)");
+        Desk d = new Desk();
+        d.ask(PUT, 1, "a").payload("xy").served(0);
+        d.desk.payload('z', 1);
+        d.option(11, "62");
+        d.desk.longer('c', 1);
+        d.ask(GET, 2, "a").served(0);
+        String sent = d.atHand();
+        CHECKS.same("the contents", sent, "60450002" + "420001" + "ff7879");
+        d.desk.read();
+        d.desk.payload('z', 1);
+        d.desk.end(5);
+        d.desk.feed(-1L, 8);
+        CHECKS.same("what was sent", d.ask(GET, 2, "a").served(0), 69);
+        CHECKS.same("its bytes", d.atHand(), sent);
+        d.ask(GET, 3, "a").served(0);
+        CHECKS.same("the contents then", d.atHand(), "60450003" + "420001" + "ff7879");
+        d.ask(PUT, 4, "b").payload("uvw").served(0);
+        d.ask(DELETE, 5, "a").served(0);
+        d.ask(PUT, 6, "c").payload("q").served(0);
+        d.ask(GET, 7, "b").served(0);
+        CHECKS.same("those of another", d.atHand(), "60450007" + "420002" + "ff757677");
+        d.ask(GET, 8, "c").served(0);
+        CHECKS.same("those of a third", d.atHand(), "60450008" + "420003" + "ff71");
     }
 
     private static void putContents() {
@@ -270,15 +315,15 @@ public final class ResourceEdgesTest {
         int[] lengths = {0, 1, 400, 399, 400, 0, 400};
         Desk d = withContents(3);
         for (int i = 0; i < lengths.length; i++) {
-            CHECKS.same("of " + lengths[i], ask(d, PUT, 2 + i, "a").counted(lengths[i]).served(0), 68);
+            CHECKS.same("of " + lengths[i], d.ask(PUT, 2 + i, "a").counted(lengths[i]).served(0), 68);
             CHECKS.same("what is sent", d.desk.total(0) + " " + d.desk.hand(6), 7 + " " + (2 + i));
             CHECKS.same("the contents", d.desk.resource(0, 1), lengths[i]);
         }
-        ask(d, GET, 20, "a").option(23, "06").served(0);
+        d.ask(GET, 20, "a").option(23, "06").served(0);
         CHECKS.same("the first of 400", d.desk.hand(11), 0);
         CHECKS.same("the last of 400", d.desk.hand(410), 143);
-        ask(d, PUT, 21, "a").payload("zy").served(0);
-        ask(d, GET, 22, "a").served(0);
+        d.ask(PUT, 21, "a").payload("zy").served(0);
+        d.ask(GET, 22, "a").served(0);
         CHECKS.same("2 in place of 400", d.atHand(), "60450016" + "420009" + "ff7a79");
     }
 
@@ -286,10 +331,10 @@ public final class ResourceEdgesTest {
         CHECKS.sentence("PUT: a resource that was not there is made: 65 then, with its tag");
         for (int n : new int[] {0, 1, 400}) {
             Desk d = new Desk();
-            CHECKS.same("of " + n, ask(d, PUT, 1, "a").counted(n).served(0), 65);
+            CHECKS.same("of " + n, d.ask(PUT, 1, "a").counted(n).served(0), 65);
             CHECKS.same("what is sent", d.atHand(), "60410001420001");
             CHECKS.same("the resource", d.resources(), "1:" + n + ":1");
-            CHECKS.same("again", ask(d, PUT, 2, "a").counted(n).served(0), 68);
+            CHECKS.same("again", d.ask(PUT, 2, "a").counted(n).served(0), 68);
             CHECKS.same("no other is made", d.resources(), "1:" + n + ":2");
         }
     }
@@ -297,7 +342,7 @@ public final class ResourceEdgesTest {
     private static Desk withSixteen() {
         Desk d = new Desk();
         for (int k = 0; k < 16; k++) {
-            CHECKS.same("resource " + k, ask(d, PUT, k, "" + (char) ('a' + k)).served(0), 65);
+            CHECKS.same("resource " + k, d.ask(PUT, k, "" + (char) ('a' + k)).served(0), 65);
         }
         return d;
     }
@@ -306,32 +351,32 @@ public final class ResourceEdgesTest {
         CHECKS.sentence("RESOURCES, 16 at most; PUT: (143 if there are 16)");
         Desk d = withSixteen();
         CHECKS.same("there are 16", d.desk.total(1), 16);
-        CHECKS.same("a 17th", ask(d, PUT, 100, "z").payload("x").served(0), 143);
+        CHECKS.same("a 17th", d.ask(PUT, 100, "z").payload("x").served(0), 143);
         CHECKS.same("what is sent", d.atHand(), "608f0064");
         CHECKS.same("it is not made", d.totals(), "16 16 17 0 0");
-        CHECKS.same("a 17th again", ask(d, PUT, 101, "z").served(0), 143);
-        CHECKS.same("the first of 16", ask(d, PUT, 102, "a").served(0), 68);
-        CHECKS.same("the last of 16", ask(d, PUT, 103, "p").served(0), 68);
-        CHECKS.same("POST to the last of 16", ask(d, POST, 104, "p").served(0), 68);
-        CHECKS.same("POST to a 17th", ask(d, POST, 105, "z").served(0), 132);
-        CHECKS.same("DELETE of a 17th", ask(d, DELETE, 106, "z").served(0), 66);
-        CHECKS.same("still there is no room", ask(d, PUT, 107, "z").served(0), 143);
-        CHECKS.same("DELETE of the last", ask(d, DELETE, 108, "p").served(0), 66);
-        CHECKS.same("there is room", ask(d, PUT, 109, "z").served(0), 65);
-        CHECKS.same("for one", ask(d, PUT, 110, "y").served(0), 143);
-        CHECKS.same("with an option 5", ask(d, PUT, 111, "y").option(5, "").served(0), 143);
-        CHECKS.same("140 before 143", ask(d, PUT, 112, "y").option(1, "").served(0), 140);
-        CHECKS.same("140 of one that is there", ask(d, PUT, 113, "z").option(5, "").served(0), 140);
+        CHECKS.same("a 17th again", d.ask(PUT, 101, "z").served(0), 143);
+        CHECKS.same("the first of 16", d.ask(PUT, 102, "a").served(0), 68);
+        CHECKS.same("the last of 16", d.ask(PUT, 103, "p").served(0), 68);
+        CHECKS.same("POST to the last of 16", d.ask(POST, 104, "p").served(0), 68);
+        CHECKS.same("POST to a 17th", d.ask(POST, 105, "z").served(0), 132);
+        CHECKS.same("DELETE of a 17th", d.ask(DELETE, 106, "z").served(0), 66);
+        CHECKS.same("still there is no room", d.ask(PUT, 107, "z").served(0), 143);
+        CHECKS.same("DELETE of the last", d.ask(DELETE, 108, "p").served(0), 66);
+        CHECKS.same("there is room", d.ask(PUT, 109, "z").served(0), 65);
+        CHECKS.same("for one", d.ask(PUT, 110, "y").served(0), 143);
+        CHECKS.same("with an option 5", d.ask(PUT, 111, "y").option(5, "").served(0), 143);
+        CHECKS.same("140 before 143", d.ask(PUT, 112, "y").option(1, "").served(0), 140);
+        CHECKS.same("140 of one that is there", d.ask(PUT, 113, "z").option(5, "").served(0), 140);
     }
 
     private static void postWithout() {
         CHECKS.sentence("POST: 132 without a resource");
         Desk d = new Desk();
-        CHECKS.same("of none", ask(d, POST, 1, "a").payload("x").served(0), 132);
+        CHECKS.same("of none", d.ask(POST, 1, "a").payload("x").served(0), 132);
         CHECKS.same("what is sent", d.atHand(), "60840001");
         CHECKS.same("none is made", d.totals(), "0 0 1 0 0");
-        CHECKS.same("with an option 5", ask(d, POST, 2, "a").option(5, "").payload("x").served(0), 132);
-        CHECKS.same("with 400 bytes", ask(d, POST, 3, "a").counted(400).served(0), 132);
+        CHECKS.same("with an option 5", d.ask(POST, 2, "a").option(5, "").payload("x").served(0), 132);
+        CHECKS.same("with 400 bytes", d.ask(POST, 3, "a").counted(400).served(0), 132);
     }
 
     private static void postLimit() {
@@ -344,15 +389,15 @@ public final class ResourceEdgesTest {
             String name = row[0] + " and " + row[1];
             Desk d = withContents(row[0]);
             boolean fits = row[2] == 68;
-            CHECKS.same(name, ask(d, POST, 2, "a").counted(row[1]).served(0), row[2]);
+            CHECKS.same(name, d.ask(POST, 2, "a").counted(row[1]).served(0), row[2]);
             CHECKS.same("what is sent for " + name, d.atHand(), fits ? "60440002420002" : "608d0002");
             CHECKS.same("the resource", d.resources(), fits ? "1:" + (row[0] + row[1]) + ":2" : "1:" + row[0] + ":1");
             CHECKS.same("the counts", d.totals(), fits ? "1 2 2 0 0" : "1 1 2 0 0");
         }
         Desk d = withContents(3);
-        ask(d, POST, 2, "a").payload("xy").served(0);
-        ask(d, POST, 3, "a").payload("z").served(0);
-        ask(d, GET, 4, "a").served(0);
+        d.ask(POST, 2, "a").payload("xy").served(0);
+        d.ask(POST, 3, "a").payload("z").served(0);
+        d.ask(GET, 4, "a").served(0);
         CHECKS.same("in their order", d.atHand(), "60450004" + "420003" + "ff00010278797a");
     }
 
@@ -361,15 +406,15 @@ public final class ResourceEdgesTest {
         for (int gone = 0; gone < 16; gone += 5) {
             Desk d = withSixteen();
             String path = "" + (char) ('a' + gone);
-            CHECKS.same("number " + gone, ask(d, DELETE, 100, path).served(0), 66);
+            CHECKS.same("number " + gone, d.ask(DELETE, 100, path).served(0), 66);
             CHECKS.same("what is sent", d.atHand(), "60420064");
             CHECKS.same("how many there are", d.desk.total(1), 15);
-            CHECKS.same("it is gone", ask(d, GET, 101, path).served(0), 132);
+            CHECKS.same("it is gone", d.ask(GET, 101, path).served(0), 132);
             for (int k = 0; k < 15; k++) {
                 CHECKS.same("the tag of number " + k, d.desk.resource(k, 2), k < gone ? k + 1 : k + 2);
             }
             CHECKS.illegalArgument("resource(15, 0)", () -> d.desk.resource(15, 0));
-            CHECKS.same("made again", ask(d, PUT, 102, path).served(0), 65);
+            CHECKS.same("made again", d.ask(PUT, 102, path).served(0), 65);
             CHECKS.same("it is the last", d.desk.resource(15, 2), 17);
             CHECKS.same("without its contents", d.desk.resource(15, 1), 0);
         }
@@ -378,13 +423,13 @@ public final class ResourceEdgesTest {
     private static void deleteWithout() {
         CHECKS.sentence("DELETE: 66 (without one as well)");
         Desk d = new Desk();
-        CHECKS.same("of none", ask(d, DELETE, 1, "").served(0), 66);
+        CHECKS.same("of none", d.ask(DELETE, 1, "").served(0), 66);
         CHECKS.same("what is sent", d.atHand(), "60420001");
-        ask(d, PUT, 2, "a").served(0);
-        CHECKS.same("of another", ask(d, DELETE, 3, "b").served(0), 66);
+        d.ask(PUT, 2, "a").served(0);
+        CHECKS.same("of another", d.ask(DELETE, 3, "b").served(0), 66);
         CHECKS.same("that stays", d.resources(), "1:0:1");
-        CHECKS.same("of it", ask(d, DELETE, 4, "a").served(0), 66);
-        CHECKS.same("of it, twice", ask(d, DELETE, 5, "a").served(0), 66);
+        CHECKS.same("of it", d.ask(DELETE, 4, "a").served(0), 66);
+        CHECKS.same("of it, twice", d.ask(DELETE, 5, "a").served(0), 66);
         CHECKS.same("none is left", d.totals(), "0 1 5 0 0");
     }
 
@@ -392,37 +437,37 @@ public final class ResourceEdgesTest {
         CHECKS.sentence("RESOURCES: a count that goes up by 1 (from 1 on) whenever a PUT or POST is answered with 65 or 68");
         Desk d = new Desk();
         CHECKS.same("before all", d.desk.total(2), 0);
-        ask(d, PUT, 1, "a").payload("x").served(0);
+        d.ask(PUT, 1, "a").payload("x").served(0);
         CHECKS.same("65", d.desk.total(2) + " " + d.resources(), "1 1:1:1");
-        ask(d, PUT, 2, "a").payload("x").served(0);
+        d.ask(PUT, 2, "a").payload("x").served(0);
         CHECKS.same("68, the same bytes", d.desk.total(2) + " " + d.resources(), "2 1:1:2");
-        ask(d, POST, 3, "a").served(0);
+        d.ask(POST, 3, "a").served(0);
         CHECKS.same("68, nothing behind them", d.desk.total(2) + " " + d.resources(), "3 1:1:3");
-        ask(d, PUT, 4, "b").served(0);
+        d.ask(PUT, 4, "b").served(0);
         CHECKS.same("65, another", d.desk.total(2) + " " + d.resources(), "4 1:1:3 1:0:4");
-        ask(d, POST, 5, "a").payload("y").served(0);
+        d.ask(POST, 5, "a").payload("y").served(0);
         CHECKS.same("68, the first", d.desk.total(2) + " " + d.resources(), "5 1:2:5 1:0:4");
-        ask(d, DELETE, 6, "b").served(0);
-        ask(d, PUT, 7, "b").served(0);
+        d.ask(DELETE, 6, "b").served(0);
+        d.ask(PUT, 7, "b").served(0);
         CHECKS.same("65, made again", d.desk.total(2) + " " + d.resources(), "6 1:2:5 1:0:6");
     }
 
     private static void tagsStay() {
         CHECKS.sentence("RESOURCES: (the count stays, if the answer is another)");
         Desk d = withContents(400);
-        CHECKS.same("66", ask(d, DELETE, 2, "z").served(0), 66);
-        CHECKS.same("67", ask(d, GET, 3, "a").option(4, "0001").served(0), 67);
-        CHECKS.same("69", ask(d, GET, 4, "a").served(0), 69);
-        CHECKS.same("130", ask(d, PUT, 5, "a").option(7, "").served(0), 130);
-        CHECKS.same("132", ask(d, POST, 6, "z").served(0), 132);
-        CHECKS.same("133", ask(d, 5, 7, "a").served(0), 133);
-        CHECKS.same("140", ask(d, PUT, 8, "a").option(5, "").served(0), 140);
-        CHECKS.same("141", ask(d, POST, 9, "a").payload("x").served(0), 141);
-        CHECKS.same("repeated", ask(d, PUT, 9, "a").served(0), 141);
+        CHECKS.same("66", d.ask(DELETE, 2, "z").served(0), 66);
+        CHECKS.same("67", d.ask(GET, 3, "a").option(4, "0001").served(0), 67);
+        CHECKS.same("69", d.ask(GET, 4, "a").served(0), 69);
+        CHECKS.same("130", d.ask(PUT, 5, "a").option(7, "").served(0), 130);
+        CHECKS.same("132", d.ask(POST, 6, "z").served(0), 132);
+        CHECKS.same("133", d.ask(5, 7, "a").served(0), 133);
+        CHECKS.same("140", d.ask(PUT, 8, "a").option(5, "").served(0), 140);
+        CHECKS.same("141", d.ask(POST, 9, "a").payload("x").served(0), 141);
+        CHECKS.same("repeated", d.ask(PUT, 9, "a").served(0), 141);
         CHECKS.same("another peer's reset", d.begun(0, 0, 1).served(1), 0);
         CHECKS.same("the tag", d.desk.total(2) + " " + d.resources(), "1 1:400:1");
         Desk full = withSixteen();
-        CHECKS.same("143", ask(full, PUT, 30, "z").served(0), 143);
+        CHECKS.same("143", full.ask(PUT, 30, "z").served(0), 143);
         CHECKS.same("the count", full.desk.total(2), 16);
     }
 
@@ -431,16 +476,34 @@ public final class ResourceEdgesTest {
         String[] paths = {"", "/", "//", "a", "a/", "/a", "a/b", "b/a", "ab", "a/b/", "ab/", "a//b", "\0", "\0/\0", "\1/", "a/a"};
         Desk d = new Desk();
         for (int k = 0; k < paths.length; k++) {
-            CHECKS.same("path " + k, ask(d, PUT, k, paths[k]).served(0), 65);
+            CHECKS.same("path " + k, d.ask(PUT, k, paths[k]).served(0), 65);
         }
         for (int k = 0; k < paths.length; k++) {
-            CHECKS.same("the tag of path " + k, ask(d, GET, 100 + k, paths[k]).served(1) + " " + d.desk.hand(6), "69 " + (k + 1));
+            CHECKS.same("the tag of path " + k, d.ask(GET, 100 + k, paths[k]).served(1) + " " + d.desk.hand(6), "69 " + (k + 1));
             CHECKS.same("values of path " + k, d.desk.resource(k, 0), paths[k].isEmpty() ? 0 : paths[k].split("/", -1).length);
         }
         Desk other = new Desk();
         other.begun(0, PUT, 1).option(11, "62").option(0, "").option(15, "ff").option(11, "61").served(0);
-        CHECKS.same("other options are not of it", ask(other, PUT, 2, "b/a").option(4, "61").option(12, "63").served(0), 68);
-        CHECKS.same("nor is their order", ask(other, GET, 3, "a/b").served(0), 132);
+        CHECKS.same("other options are not of it", other.ask(PUT, 2, "b/a").option(4, "61").option(12, "63").served(0), 68);
+        CHECKS.same("nor is their order", other.ask(GET, 3, "a/b").served(0), 132);
+    }
+
+    /** Values whose bytes could be taken for the lengths of others. */
+    private static void pathLengths() {
+        CHECKS.sentence("RESOURCES: a PATH, a row of values, each of them of 0 to 400 bytes");
+        String[][] paths = {
+            {"", "00".repeat(256)}, {"00".repeat(256), ""}, {"01" + "00".repeat(255), ""}, {"00".repeat(255), "00"},
+            {"00", "00".repeat(255)},
+            {"00".repeat(256)}, {"00".repeat(255)}, {"00".repeat(257)}, {"00".repeat(400)}, {"00".repeat(144)}, {"0090" + "00".repeat(144)},
+        };
+        Desk d = new Desk();
+        for (int k = 0; k < paths.length; k++) {
+            d.begun(0, PUT, k);
+            for (String value : paths[k]) {
+                d.option(11, value);
+            }
+            CHECKS.same("path " + k, d.served(0), 65);
+        }
     }
 
     private static void pathLongest() {
@@ -471,13 +534,13 @@ public final class ResourceEdgesTest {
         CHECKS.sentence("16: Of resource k, the one made first of all first");
         Desk d = new Desk();
         for (String path : new String[] {"c", "a", "b", "", "a/b/c"}) {
-            ask(d, PUT, 10 + path.length(), path).payload(path).served(path.isEmpty() ? 9 : path.charAt(0) - 'a');
+            d.ask(PUT, 10 + path.length(), path).payload(path).served(path.isEmpty() ? 9 : path.charAt(0) - 'a');
         }
         CHECKS.same("as they were made", d.resources(), "1:1:1 1:1:2 1:1:3 0:0:4 3:5:5");
-        ask(d, PUT, 20, "c").payload("xyz").served(0);
+        d.ask(PUT, 20, "c").payload("xyz").served(0);
         CHECKS.same("a change leaves it in its place", d.resources(), "1:3:6 1:1:2 1:1:3 0:0:4 3:5:5");
-        ask(d, DELETE, 21, "a").served(0);
-        ask(d, PUT, 22, "a").payload("xyzv").served(0);
+        d.ask(DELETE, 21, "a").served(0);
+        d.ask(PUT, 22, "a").payload("xyzv").served(0);
         CHECKS.same("made again it is the last", d.resources(), "1:3:6 1:1:3 0:0:4 3:5:5 1:4:7");
     }
 
@@ -489,7 +552,7 @@ public final class ResourceEdgesTest {
         }
         CHECKS.illegalArgument("-1", () -> d.desk.total(-1));
         CHECKS.illegalArgument("6", () -> d.desk.total(6));
-        for (int far : FAR) {
+        for (int far : Checks.FAR) {
             CHECKS.illegalArgument("" + far, () -> d.desk.total(far));
         }
     }
@@ -517,7 +580,7 @@ public final class ResourceEdgesTest {
         Desk d = new Desk();
         CHECKS.illegalArgument("0 of none", () -> d.desk.resource(0, 0));
         for (int k = 0; k < 16; k++) {
-            ask(d, PUT, k, "" + (char) ('a' + k)).served(0);
+            d.ask(PUT, k, "" + (char) ('a' + k)).served(0);
             int behind = k + 1;
             CHECKS.same("number " + k, d.desk.resource(k, 2), k + 1);
             CHECKS.illegalArgument("number " + behind, () -> d.desk.resource(behind, 2));
@@ -527,12 +590,12 @@ public final class ResourceEdgesTest {
             CHECKS.illegalArgument("resource(" + k + ", 3)", () -> d.desk.resource(k, 3));
         }
         CHECKS.illegalArgument("-1", () -> d.desk.resource(-1, 0));
-        for (int far : FAR) {
+        for (int far : Checks.FAR) {
             CHECKS.illegalArgument("k " + far, () -> d.desk.resource(far, 0));
             CHECKS.illegalArgument("what " + far, () -> d.desk.resource(0, far));
         }
         for (int k = 15; k >= 0; k--) {
-            ask(d, DELETE, 100 + k, "" + (char) ('a' + k)).served(0);
+            d.ask(DELETE, 100 + k, "" + (char) ('a' + k)).served(0);
             int gone = k;
             CHECKS.illegalArgument("number " + gone + " is gone", () -> d.desk.resource(gone, 0));
         }

@@ -37,21 +37,16 @@ public final class ServeTest {
         CHECKS.finish();
     }
 
-    /** A confirmable request, begun; what it asks for comes behind. */
-    private static Desk ask(Desk d, int code, int id, String path) {
-        return d.begun(0, code, id).path(path);
-    }
-
     /** A desk with one resource "a" of n bytes 0, 1, 2 .., with tag 1; IDs up to 1 are used by peer 0. */
     private static Desk withContents(int n) {
         Desk d = new Desk();
-        ask(d, PUT, 1, "a").counted(n).served(0);
+        d.ask(PUT, 1, "a").counted(n).served(0);
         return d;
     }
 
     private static void wrongPeer() {
         Desk d = new Desk();
-        ask(d, PUT, 1, "a").desk.write();
+        d.ask(PUT, 1, "a").desk.write();
         String before = d.atHand();
         for (int peer : new int[] {-1, 10, Integer.MAX_VALUE, Integer.MIN_VALUE}) {
             CHECKS.illegalArgument("serve(" + peer + ")", () -> d.desk.serve(peer));
@@ -121,7 +116,7 @@ public final class ServeTest {
 
     private static void repeated() {
         Desk d = new Desk();
-        ask(d, PUT, 5, "a").payload("x").served(2);
+        d.ask(PUT, 5, "a").payload("x").served(2);
         String first = d.atHand();
         d.desk.begin(1, DELETE, 5, 0x99L, 1);
         d.path("a");
@@ -135,8 +130,8 @@ public final class ServeTest {
         d.begun(1, POST, 6).path("a").payload("yz").served(2);
         CHECKS.same("with the server's own ID again", d.atHand(), first);
         CHECKS.same("counts", d.totals(), "1 1 2 3 1");
-        ask(d, GET, 7, "b").served(2);
-        ask(d, PUT, 7, "b");
+        d.ask(GET, 7, "b").served(2);
+        d.ask(PUT, 7, "b");
         CHECKS.same("errors are repeated too", d.served(2), 132);
         CHECKS.same("a reset is sent for it still", d.fed("40000007").desk.serve(2), 0);
         CHECKS.same("counts then", d.totals(), "1 1 3 4 1");
@@ -145,32 +140,32 @@ public final class ServeTest {
     private static void repeatedWindow() {
         Desk d = new Desk();
         for (int id = 0; id < 8; id++) {
-            ask(d, POST, id, "b").served(0);
+            d.ask(POST, id, "b").served(0);
         }
-        ask(d, PUT, 0, "b");
+        d.ask(PUT, 0, "b");
         CHECKS.same("the eighth latest is repeated", d.served(0), 132);
-        ask(d, PUT, 8, "b");
+        d.ask(PUT, 8, "b");
         CHECKS.same("a new ID is not", d.served(0), 65);
-        ask(d, PUT, 1, "b");
+        d.ask(PUT, 1, "b");
         CHECKS.same("ID 1 is among the latest 8", d.served(0), 132);
-        ask(d, PUT, 0, "b");
+        d.ask(PUT, 0, "b");
         CHECKS.same("ID 0 is not: repeating it changed nothing", d.served(0), 68);
         CHECKS.same("counts", d.totals(), "1 2 10 2 0");
-        ask(d, GET, 1, "b");
+        d.ask(GET, 1, "b");
         CHECKS.same("now ID 1 is not", d.served(0), 69);
-        ask(d, DELETE, 0, "b");
+        d.ask(DELETE, 0, "b");
         CHECKS.same("and ID 0 is", d.served(0), 68);
     }
 
     private static void repeatedPerPeer() {
         Desk d = new Desk();
         for (int peer = 0; peer <= 9; peer++) {
-            ask(d, PUT, 77, "a");
+            d.ask(PUT, 77, "a");
             CHECKS.same("peer " + peer, d.served(peer), peer == 0 ? 65 : 68);
         }
         CHECKS.same("all were served", d.totals(), "1 10 10 0 0");
         for (int peer = 0; peer <= 9; peer++) {
-            ask(d, GET, 77, "a");
+            d.ask(GET, 77, "a");
             CHECKS.same("peer " + peer + " again", d.served(peer), peer == 0 ? 65 : 68);
             CHECKS.same("its own tag", d.atHand(), "60" + (peer == 0 ? "41" : "44") + "004d42" + "00" + Desk.hex(peer + 1));
         }
@@ -187,17 +182,17 @@ public final class ServeTest {
         for (Object[] row : rows) {
             for (int code : codes) {
                 Desk d = new Desk();
-                ask(d, code, 1, "a").option((Integer) row[0], (String) row[1]);
+                d.ask(code, 1, "a").option((Integer) row[0], (String) row[1]);
                 CHECKS.same("code " + code + " with " + row[0] + "=" + row[1], d.served(0), 130);
                 CHECKS.same("the answer", d.atHand(), "60820001");
                 CHECKS.same("nothing is made", d.totals(), "0 0 1 0 0");
             }
         }
         Desk twice = new Desk();
-        CHECKS.same("a 5 twice", ask(twice, PUT, 1, "a").option(5, "").option(5, "").served(0), 130);
-        CHECKS.same("a 23 twice", ask(twice, PUT, 2, "a").option(23, "").option(23, "").served(0), 130);
+        CHECKS.same("a 5 twice", twice.ask(PUT, 1, "a").option(5, "").option(5, "").served(0), 130);
+        CHECKS.same("a 23 twice", twice.ask(PUT, 2, "a").option(23, "").option(23, "").served(0), 130);
         CHECKS.same("a long 1 among good ones",
-            ask(twice, PUT, 3, "a").option(1, "").longOption(1, 9).served(0), 130);
+            twice.ask(PUT, 3, "a").option(1, "").longOption(1, 9).served(0), 130);
     }
 
     private static void goodOptions() {
@@ -208,20 +203,20 @@ public final class ServeTest {
         };
         for (Object[] row : rows) {
             Desk d = withContents(10);
-            ask(d, GET, 2, "a").option((Integer) row[0], (String) row[1]);
+            d.ask(GET, 2, "a").option((Integer) row[0], (String) row[1]);
             CHECKS.same("GET with " + row[0] + "=" + row[1], d.served(0), 69);
         }
         Desk d = withContents(10);
-        CHECKS.same("many of 1, 4, 11, 15", ask(d, GET, 2, "a").option(1, "").option(1, "0011223344556677").option(4, "")
+        CHECKS.same("many of 1, 4, 11, 15", d.ask(GET, 2, "a").option(1, "").option(1, "0011223344556677").option(4, "")
             .option(4, "05").option(15, "01").option(15, "02").served(0), 69);
-        CHECKS.same("the highest number without 7", ask(d, PUT, 3, "a").option(23, "0ffffe").served(0), 68);
-        CHECKS.same("it in four bytes", ask(d, PUT, 4, "a").option(23, "000ffffe").served(0), 68);
+        CHECKS.same("the highest number without 7", d.ask(PUT, 3, "a").option(23, "0ffffe").served(0), 68);
+        CHECKS.same("it in four bytes", d.ask(PUT, 4, "a").option(23, "000ffffe").served(0), 68);
     }
 
     private static void methods() {
         for (int code = 5; code <= 31; code++) {
             Desk d = new Desk();
-            CHECKS.same("code " + code, ask(d, code, 1, "a").option(1, "").served(0), 133);
+            CHECKS.same("code " + code, d.ask(code, 1, "a").option(1, "").served(0), 133);
             CHECKS.same("the answer", d.atHand(), "60850001");
         }
         Desk d = new Desk();
@@ -234,11 +229,11 @@ public final class ServeTest {
         Desk d = new Desk();
         String[] paths = {"", "a", "b", "a/b", "b/a", "ab", "a/", "/a", "/", "//"};
         for (int i = 0; i < paths.length; i++) {
-            CHECKS.same("PUT of " + paths[i], ask(d, PUT, i, paths[i]).payload(paths[i]).served(0), 65);
+            CHECKS.same("PUT of " + paths[i], d.ask(PUT, i, paths[i]).payload(paths[i]).served(0), 65);
         }
         CHECKS.same("each is another", d.desk.total(1), paths.length);
         for (int i = 0; i < paths.length; i++) {
-            ask(d, GET, 100 + i, paths[i]).served(1);
+            d.ask(GET, 100 + i, paths[i]).served(1);
             d.desk.read();
             StringBuilder due = new StringBuilder();
             for (char c : paths[i].toCharArray()) {
@@ -274,39 +269,39 @@ public final class ServeTest {
 
     private static void getTags() {
         Desk d = withContents(3);
-        CHECKS.same("the tag", ask(d, GET, 2, "a").option(4, "0001").served(0), 67);
+        CHECKS.same("the tag", d.ask(GET, 2, "a").option(4, "0001").served(0), 67);
         CHECKS.same("67 comes with it alone", d.atHand(), "60430002" + "420001");
-        CHECKS.same("one of several", ask(d, GET, 3, "a").option(4, "").option(4, "0001").option(4, "0002").served(0), 67);
+        CHECKS.same("one of several", d.ask(GET, 3, "a").option(4, "").option(4, "0001").option(4, "0002").served(0), 67);
         for (String other : new String[] {"", "01", "000001", "0002", "0100", "00000001"}) {
             Desk o = withContents(3);
-            CHECKS.same("not " + other, ask(o, GET, 4, "a").option(4, other).served(0), 69);
+            CHECKS.same("not " + other, o.ask(GET, 4, "a").option(4, other).served(0), 69);
             CHECKS.same("the contents come", o.atHand(), "60450004" + "420001" + "ff000102");
         }
         CHECKS.same("67 before a block beyond the end",
-            ask(d, GET, 5, "a").option(4, "0001").option(23, "fff6").served(0), 67);
-        CHECKS.same("without such a resource", ask(d, GET, 6, "b").option(4, "0001").option(23, "fff6").served(0), 132);
-        CHECKS.same("no conditions for GET", ask(d, GET, 7, "a").option(1, "0009").option(5, "").served(0), 69);
-        CHECKS.same("a payload is nothing to GET", ask(d, GET, 8, "a").payload("zz").served(0), 69);
+            d.ask(GET, 5, "a").option(4, "0001").option(23, "fff6").served(0), 67);
+        CHECKS.same("without such a resource", d.ask(GET, 6, "b").option(4, "0001").option(23, "fff6").served(0), 132);
+        CHECKS.same("no conditions for GET", d.ask(GET, 7, "a").option(1, "0009").option(5, "").served(0), 69);
+        CHECKS.same("a payload is nothing to GET", d.ask(GET, 8, "a").payload("zz").served(0), 69);
         CHECKS.same("no change by all that", d.resources(), "1:3:1");
     }
 
     private static void getWithoutBlocks() {
         Desk none = withContents(0);
-        CHECKS.same("no contents", ask(none, GET, 2, "a").served(0), 69);
+        CHECKS.same("no contents", none.ask(GET, 2, "a").served(0), 69);
         CHECKS.same("no mark", none.atHand(), "60450002" + "420001");
         Desk most = withContents(64);
-        CHECKS.same("64 bytes", ask(most, GET, 2, "a").served(0), 69);
+        CHECKS.same("64 bytes", most.ask(GET, 2, "a").served(0), 69);
         CHECKS.same("no blocks", most.atHand().substring(0, 18), "60450002" + "420001" + "ff00");
         CHECKS.same("all of them", most.desk.total(0), 8 + 64);
         Desk more = withContents(65);
-        CHECKS.same("65 bytes", ask(more, GET, 2, "a").served(0), 69);
+        CHECKS.same("65 bytes", more.ask(GET, 2, "a").served(0), 69);
         CHECKS.same("the first block", more.atHand().substring(0, 24), "60450002" + "420001" + "d1060a" + "ff00");
         CHECKS.same("64 of them", more.desk.total(0), 11 + 64);
     }
 
     /** GET of block option text: the code, option 23 of the answer, first byte of the payload and how long it is. */
     private static String block(Desk d, int id, String asked) {
-        int code = ask(d, GET, id, "a").option(23, asked).served(9);
+        int code = d.ask(GET, id, "a").option(23, asked).served(9);
         CHECKS.same("the answer can be read", d.desk.read() >= 0 ? 1 : 0, 1);
         if (code != 69) {
             CHECKS.same("no options", d.desk.about(4), 0);
@@ -331,7 +326,7 @@ public final class ServeTest {
             CHECKS.same("block " + rows[i][0], block(d, 10 + i, rows[i][0]), rows[i][1]);
         }
         Desk whole = withContents(400);
-        ask(whole, GET, 2, "a").option(23, "06").served(0);
+        whole.ask(GET, 2, "a").option(23, "06").served(0);
         CHECKS.same("all in one answer", whole.desk.total(0), 4 + 3 + 3 + 1 + 400);
         whole.desk.begin(0, GET, 3, -1L, 8);
         whole.path("a").option(23, "06").served(0);
@@ -361,24 +356,24 @@ public final class ServeTest {
             for (Object[] row : rows) {
                 Desk d = withContents(3);
                 CHECKS.same("code " + code + " if match " + row[0],
-                    ask(d, code, 2, "a").option(1, (String) row[0]).payload("xy").served(0), (Integer) row[1] == 1 ? done : 140);
+                    d.ask(code, 2, "a").option(1, (String) row[0]).payload("xy").served(0), (Integer) row[1] == 1 ? done : 140);
                 if ((Integer) row[1] == 0) {
                     CHECKS.same("nothing is changed", d.resources(), "1:3:1");
                     CHECKS.same("the answer", d.atHand(), "608c0002");
                 }
             }
             Desk d = withContents(3);
-            CHECKS.same("none of several", ask(d, code, 2, "a").option(1, "0003").option(1, "0002").served(0), 140);
-            CHECKS.same("no resource, empty", ask(d, code, 3, "b").option(1, "").served(0), 140);
-            CHECKS.same("no resource, a tag", ask(d, code, 4, "b").option(1, "0001").served(0), 140);
-            CHECKS.same("one of several", ask(d, code, 5, "a").option(1, "0003").option(1, "0001").served(0), done);
+            CHECKS.same("none of several", d.ask(code, 2, "a").option(1, "0003").option(1, "0002").served(0), 140);
+            CHECKS.same("no resource, empty", d.ask(code, 3, "b").option(1, "").served(0), 140);
+            CHECKS.same("no resource, a tag", d.ask(code, 4, "b").option(1, "0001").served(0), 140);
+            CHECKS.same("one of several", d.ask(code, 5, "a").option(1, "0003").option(1, "0001").served(0), done);
             CHECKS.same("none was made", d.desk.total(1), code == DELETE ? 0 : 1);
         }
     }
 
     /** As many options 1, or 4, as a message can have beside its path; the latest of them is told. */
     private static Desk manyTagOptions(Desk d, int code, int id, int number, String last) {
-        ask(d, code, id, "a");
+        d.ask(code, id, "a");
         for (int k = 0; k < 18; k++) {
             d.option(number, "0009");
         }
@@ -391,87 +386,87 @@ public final class ServeTest {
         CHECKS.same("19 options 4, none of them met", manyTagOptions(d, GET, 3, 4, "0002").served(0), 69);
         CHECKS.same("the last option 4 is met", manyTagOptions(d, GET, 4, 4, "0001").served(0), 67);
         CHECKS.same("the last option 1 is met", manyTagOptions(d, PUT, 5, 1, "0001").served(0), 68);
-        CHECKS.same("options of the request before are gone", ask(d, PUT, 6, "a").option(1, "0001").served(0), 140);
+        CHECKS.same("options of the request before are gone", d.ask(PUT, 6, "a").option(1, "0001").served(0), 140);
     }
 
     private static void ifNoneMatch() {
         int[][] rows = {{POST, 132}, {PUT, 65}, {DELETE, 66}};
         for (int[] row : rows) {
             Desk d = withContents(3);
-            CHECKS.same("code " + row[0] + " with 5 and one", ask(d, row[0], 2, "a").option(5, "").served(0), 140);
-            CHECKS.same("with a value", ask(d, row[0], 3, "a").option(5, "07").served(0), 140);
-            CHECKS.same("with 1 that is met", ask(d, row[0], 4, "a").option(5, "").option(1, "0001").served(0), 140);
+            CHECKS.same("code " + row[0] + " with 5 and one", d.ask(row[0], 2, "a").option(5, "").served(0), 140);
+            CHECKS.same("with a value", d.ask(row[0], 3, "a").option(5, "07").served(0), 140);
+            CHECKS.same("with 1 that is met", d.ask(row[0], 4, "a").option(5, "").option(1, "0001").served(0), 140);
             CHECKS.same("nothing is changed", d.resources(), "1:3:1");
-            CHECKS.same("with 1 and none", ask(d, row[0], 5, "b").option(5, "").option(1, "").served(0), 140);
-            CHECKS.same("with 5 and none", ask(d, row[0], 6, "b").option(5, "").served(0), row[1]);
+            CHECKS.same("with 1 and none", d.ask(row[0], 5, "b").option(5, "").option(1, "").served(0), 140);
+            CHECKS.same("with 5 and none", d.ask(row[0], 6, "b").option(5, "").served(0), row[1]);
         }
     }
 
     private static void put() {
         Desk d = withContents(400);
         CHECKS.same("made", d.atHand(), "60410001" + "420001");
-        CHECKS.same("PUT again", ask(d, PUT, 2, "a").payload("xyz").served(0), 68);
+        CHECKS.same("PUT again", d.ask(PUT, 2, "a").payload("xyz").served(0), 68);
         CHECKS.same("its answer", d.atHand(), "60440002" + "420002");
         CHECKS.same("the payload is the contents", d.resources(), "1:3:2");
-        ask(d, GET, 3, "a").served(0);
+        d.ask(GET, 3, "a").served(0);
         CHECKS.same("those bytes", d.atHand(), "60450003" + "420002" + "ff78797a");
-        CHECKS.same("the same bytes", ask(d, PUT, 4, "a").payload("xyz").served(0), 68);
+        CHECKS.same("the same bytes", d.ask(PUT, 4, "a").payload("xyz").served(0), 68);
         CHECKS.same("have a new tag", d.resources(), "1:3:3");
-        CHECKS.same("no bytes", ask(d, PUT, 5, "a").served(0), 68);
+        CHECKS.same("no bytes", d.ask(PUT, 5, "a").served(0), 68);
         CHECKS.same("are contents too", d.resources(), "1:0:4");
-        CHECKS.same("a block option is nothing to PUT", ask(d, PUT, 6, "a").option(23, "16").payload("q").served(0), 68);
+        CHECKS.same("a block option is nothing to PUT", d.ask(PUT, 6, "a").option(23, "16").payload("q").served(0), 68);
     }
 
     private static void putFull() {
         Desk d = new Desk();
         for (int k = 0; k < 16; k++) {
-            CHECKS.same("resource " + k, ask(d, PUT, k, "" + (char) ('a' + k)).served(0), 65);
+            CHECKS.same("resource " + k, d.ask(PUT, k, "" + (char) ('a' + k)).served(0), 65);
         }
-        CHECKS.same("a 17th", ask(d, PUT, 20, "q").served(0), 143);
+        CHECKS.same("a 17th", d.ask(PUT, 20, "q").served(0), 143);
         CHECKS.same("its answer", d.atHand(), "608f0014");
         CHECKS.same("no tag is used", d.totals(), "16 16 17 0 0");
-        CHECKS.same("140 before 143", ask(d, PUT, 21, "q").option(1, "").served(0), 140);
-        CHECKS.same("one that is there", ask(d, PUT, 22, "p").payload("1").served(0), 68);
-        CHECKS.same("one goes", ask(d, DELETE, 23, "c").served(0), 66);
-        CHECKS.same("one comes", ask(d, PUT, 24, "q").payload("12").served(0), 65);
-        CHECKS.same("and no more", ask(d, PUT, 25, "c").served(0), 143);
+        CHECKS.same("140 before 143", d.ask(PUT, 21, "q").option(1, "").served(0), 140);
+        CHECKS.same("one that is there", d.ask(PUT, 22, "p").payload("1").served(0), 68);
+        CHECKS.same("one goes", d.ask(DELETE, 23, "c").served(0), 66);
+        CHECKS.same("one comes", d.ask(PUT, 24, "q").payload("12").served(0), 65);
+        CHECKS.same("and no more", d.ask(PUT, 25, "c").served(0), 143);
         CHECKS.same("they are in the order in which they were made", d.resources(),
             "1:0:1 1:0:2 1:0:4 1:0:5 1:0:6 1:0:7 1:0:8 1:0:9 1:0:10 1:0:11 1:0:12 1:0:13 1:0:14 1:0:15 1:1:17 1:2:18");
     }
 
     private static void post() {
         Desk d = withContents(2);
-        CHECKS.same("POST", ask(d, POST, 2, "a").payload("z").served(0), 68);
+        CHECKS.same("POST", d.ask(POST, 2, "a").payload("z").served(0), 68);
         CHECKS.same("its answer", d.atHand(), "60440002" + "420002");
-        ask(d, GET, 3, "a").served(0);
+        d.ask(GET, 3, "a").served(0);
         CHECKS.same("behind the contents", d.atHand(), "60450003" + "420002" + "ff00017a");
-        CHECKS.same("POST of nothing", ask(d, POST, 4, "a").served(0), 68);
+        CHECKS.same("POST of nothing", d.ask(POST, 4, "a").served(0), 68);
         CHECKS.same("has a new tag", d.resources(), "1:3:3");
-        CHECKS.same("without a resource", ask(d, POST, 5, "b").payload("z").served(0), 132);
+        CHECKS.same("without a resource", d.ask(POST, 5, "b").payload("z").served(0), 132);
         CHECKS.same("none is made", d.desk.total(1), 1);
-        CHECKS.same("up to 400", ask(d, POST, 6, "a").counted(397).served(0), 68);
-        CHECKS.same("400 and none", ask(d, POST, 7, "a").served(0), 68);
-        CHECKS.same("above 400", ask(d, POST, 8, "a").payload("z").served(0), 141);
+        CHECKS.same("up to 400", d.ask(POST, 6, "a").counted(397).served(0), 68);
+        CHECKS.same("400 and none", d.ask(POST, 7, "a").served(0), 68);
+        CHECKS.same("above 400", d.ask(POST, 8, "a").payload("z").served(0), 141);
         CHECKS.same("its answer", d.atHand(), "608d0008");
         CHECKS.same("nothing is changed", d.resources(), "1:400:5");
-        CHECKS.same("140 before 141", ask(d, POST, 9, "a").option(5, "").payload("z").served(0), 140);
+        CHECKS.same("140 before 141", d.ask(POST, 9, "a").option(5, "").payload("z").served(0), 140);
     }
 
     private static void delete() {
         Desk d = withContents(2);
-        ask(d, PUT, 2, "b").payload("bbb").served(0);
-        ask(d, PUT, 3, "c").served(0);
-        CHECKS.same("without a resource", ask(d, DELETE, 4, "z").served(0), 66);
+        d.ask(PUT, 2, "b").payload("bbb").served(0);
+        d.ask(PUT, 3, "c").served(0);
+        CHECKS.same("without a resource", d.ask(DELETE, 4, "z").served(0), 66);
         CHECKS.same("its answer", d.atHand(), "60420004");
         CHECKS.same("nothing goes", d.desk.total(1), 3);
-        CHECKS.same("the first goes", ask(d, DELETE, 5, "a").payload("q").served(0), 66);
+        CHECKS.same("the first goes", d.ask(DELETE, 5, "a").payload("q").served(0), 66);
         CHECKS.same("its answer", d.atHand(), "60420005");
         CHECKS.same("the others are there", d.resources(), "1:3:2 1:0:3");
-        CHECKS.same("it is gone", ask(d, GET, 6, "a").served(0), 132);
+        CHECKS.same("it is gone", d.ask(GET, 6, "a").served(0), 132);
         CHECKS.same("no tag is used", d.desk.total(2), 3);
-        CHECKS.same("made again it is empty and last", ask(d, PUT, 7, "a").served(0), 65);
+        CHECKS.same("made again it is empty and last", d.ask(PUT, 7, "a").served(0), 65);
         CHECKS.same("that is", d.resources(), "1:3:2 1:0:3 1:0:4");
-        ask(d, GET, 8, "b").served(0);
+        d.ask(GET, 8, "b").served(0);
         CHECKS.same("the contents of another", d.atHand(), "60450008" + "420002" + "ff626262");
     }
 
@@ -503,7 +498,7 @@ public final class ServeTest {
 
     private static void resourceRows() {
         Desk d = new Desk();
-        ask(d, PUT, 1, "a/b/c").counted(65).served(0);
+        d.ask(PUT, 1, "a/b/c").counted(65).served(0);
         d.begun(0, PUT, 2).served(0);
         CHECKS.same("path", d.desk.resource(0, 0), 3);
         CHECKS.same("contents", d.desk.resource(0, 1), 65);

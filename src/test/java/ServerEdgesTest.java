@@ -5,9 +5,6 @@ public final class ServerEdgesTest {
     private static final int POST = 2;
     private static final int PUT = 3;
     private static final int DELETE = 4;
-    private static final int[] FAR = {
-        Integer.MIN_VALUE, Integer.MAX_VALUE, Integer.MIN_VALUE + 1, -65536, -256, -2, 65536, 1 << 24,
-    };
 
     public static void main(String[] args) {
         peers();
@@ -38,21 +35,16 @@ public final class ServerEdgesTest {
         CHECKS.finish();
     }
 
-    /** A confirmable request, begun; what it asks for comes behind. */
-    private static Desk ask(Desk d, int code, int id, String path) {
-        return d.begun(0, code, id).path(path);
-    }
-
     private static void peers() {
         CHECKS.sentence("13: a PEER 0 .. 9; IllegalArgumentException: there is no such peer");
         Desk d = new Desk();
         for (int peer = 0; peer <= 9; peer++) {
-            CHECKS.same("peer " + peer, ask(d, PUT, 1, "a").served(peer), peer == 0 ? 65 : 68);
+            CHECKS.same("peer " + peer, d.ask(PUT, 1, "a").served(peer), peer == 0 ? 65 : 68);
         }
-        ask(d, PUT, 2, "a").desk.write();
+        d.ask(PUT, 2, "a").desk.write();
         CHECKS.illegalArgument("-1", () -> d.desk.serve(-1));
         CHECKS.illegalArgument("10", () -> d.desk.serve(10));
-        for (int far : FAR) {
+        for (int far : Checks.FAR) {
             CHECKS.illegalArgument("" + far, () -> d.desk.serve(far));
         }
         CHECKS.same("the bytes at hand stay", d.atHand(), "40030002b161");
@@ -70,7 +62,7 @@ public final class ServerEdgesTest {
                 CHECKS.same("type " + type + " code " + code, d.served(0), -1);
                 CHECKS.same("bytes at hand", d.desk.total(0), 0);
                 CHECKS.same("nothing is counted", d.totals(), "0 0 0 0 0");
-                CHECKS.same("its ID is not that of a request", ask(d, GET, 5, "a").served(0), 132);
+                CHECKS.same("its ID is not that of a request", d.ask(GET, 5, "a").served(0), 132);
                 CHECKS.same("nor is it repeated", d.totals(), "0 0 1 0 0");
                 CHECKS.same("the ID of a request", d.begun(type, code, 5).served(0), -1);
                 CHECKS.same("nothing is counted then", d.totals(), "0 0 1 0 0");
@@ -89,7 +81,7 @@ public final class ServerEdgesTest {
             CHECKS.same(text, d.desk.serve(0), -1);
             CHECKS.same("bytes at hand", d.desk.total(0), 0);
             CHECKS.same("nothing is counted", d.totals(), "0 0 0 0 0");
-            CHECKS.same("its ID is not that of a request", ask(d, PUT, 5, "a").served(0), 65);
+            CHECKS.same("its ID is not that of a request", d.ask(PUT, 5, "a").served(0), 65);
             CHECKS.same("the ID of a request", d.fed(text).desk.serve(0), -1);
             CHECKS.same("nothing is counted then", d.totals(), "1 1 1 0 0");
         }
@@ -173,18 +165,18 @@ public final class ServerEdgesTest {
         for (int id : new int[] {0, 1, 65535}) {
             Desk d = new Desk();
             for (int peer = 0; peer <= 9; peer++) {
-                CHECKS.same("ID " + id + " of peer " + peer, ask(d, POST, id, "a").served(peer), 132);
+                CHECKS.same("ID " + id + " of peer " + peer, d.ask(POST, id, "a").served(peer), 132);
             }
             CHECKS.same("none is a repeated one", d.totals(), "0 0 10 0 0");
         }
         Desk d = new Desk();
         int[] near = {0, 256, 65280, 255, 65535, 1, 32768};
         for (int id : near) {
-            CHECKS.same("ID " + id, ask(d, POST, id, "a").served(0), 132);
+            CHECKS.same("ID " + id, d.ask(POST, id, "a").served(0), 132);
         }
         CHECKS.same("none is like another", d.desk.total(4), 0);
         for (int id : near) {
-            CHECKS.same("ID " + id + " again", ask(d, PUT, id, "a").served(0), 132);
+            CHECKS.same("ID " + id + " again", d.ask(PUT, id, "a").served(0), 132);
         }
         CHECKS.same("all are repeated", d.desk.total(4), near.length);
     }
@@ -193,11 +185,11 @@ public final class ServerEdgesTest {
         CHECKS.sentence("THE SERVER: with the ID of one of the latest 8 requests of that peer");
         for (int others = 0; others <= 10; others++) {
             Desk d = new Desk();
-            ask(d, POST, 100, "a").served(0);
+            d.ask(POST, 100, "a").served(0);
             for (int k = 0; k < others; k++) {
-                ask(d, POST, k, "a").served(0);
+                d.ask(POST, k, "a").served(0);
             }
-            CHECKS.same("ID 100 with " + others + " behind it", ask(d, PUT, 100, "a").served(0), others < 8 ? 132 : 65);
+            CHECKS.same("ID 100 with " + others + " behind it", d.ask(PUT, 100, "a").served(0), others < 8 ? 132 : 65);
             CHECKS.same("repeated ones", d.desk.total(4), others < 8 ? 1 : 0);
             CHECKS.same("requests", d.desk.total(3), others < 8 ? others + 1 : others + 2);
         }
@@ -208,47 +200,47 @@ public final class ServerEdgesTest {
         for (int sent = 8; sent <= 26; sent++) {
             Desk d = new Desk();
             for (int id = 0; id < sent; id++) {
-                ask(d, POST, id, "a").served(0);
+                d.ask(POST, id, "a").served(0);
             }
             for (int id = sent - 8; id < sent; id++) {
-                CHECKS.same("of " + sent + ", ID " + id, ask(d, PUT, id, "a").served(0), 132);
+                CHECKS.same("of " + sent + ", ID " + id, d.ask(PUT, id, "a").served(0), 132);
                 CHECKS.same("its ID", d.desk.hand(3), id);
             }
             CHECKS.same("repeated ones", d.desk.total(4), 8);
-            CHECKS.same("of " + sent + ", ID " + (sent - 9), ask(d, GET, sent - 9 & 255, "a").served(0), 132);
+            CHECKS.same("of " + sent + ", ID " + (sent - 9), d.ask(GET, sent - 9 & 255, "a").served(0), 132);
             CHECKS.same("is no repeated one", d.desk.total(4), 8);
-            CHECKS.same("and stands for the oldest", ask(d, PUT, sent - 8, "a").served(0), 65);
+            CHECKS.same("and stands for the oldest", d.ask(PUT, sent - 8, "a").served(0), 65);
         }
     }
 
     private static void latestEightOfRequests() {
         CHECKS.sentence("THE SERVER: the latest 8 requests, not of what else came");
         Desk d = new Desk();
-        ask(d, POST, 100, "a").served(0);
+        d.ask(POST, 100, "a").served(0);
         for (int id = 0; id < 7; id++) {
-            ask(d, POST, id, "a").served(0);
+            d.ask(POST, id, "a").served(0);
             d.begun(0, 0, 200 + id).served(0);
             d.begun(1, 40, 210 + id).served(0);
             d.begun(2, 1, 220 + id).served(0);
             d.fed("400100").desk.serve(0);
-            ask(d, POST, id, "a").served(0);
-            ask(d, POST, id + 8, "a").served(1);
+            d.ask(POST, id, "a").served(0);
+            d.ask(POST, id + 8, "a").served(1);
         }
-        CHECKS.same("the first of 8", ask(d, PUT, 100, "a").served(0), 132);
+        CHECKS.same("the first of 8", d.ask(PUT, 100, "a").served(0), 132);
         CHECKS.same("repeated ones", d.desk.total(4), 8);
-        CHECKS.same("a ninth", ask(d, POST, 7, "a").served(0), 132);
-        CHECKS.same("the first of 9", ask(d, PUT, 100, "a").served(0), 65);
+        CHECKS.same("a ninth", d.ask(POST, 7, "a").served(0), 132);
+        CHECKS.same("the first of 9", d.ask(PUT, 100, "a").served(0), 65);
     }
 
     private static void latestEightOfThatPeer() {
         CHECKS.sentence("THE SERVER: of that peer");
         Desk d = new Desk();
         for (int peer = 0; peer <= 9; peer++) {
-            ask(d, PUT, 7, "a").payload("x").served(peer);
+            d.ask(PUT, 7, "a").payload("x").served(peer);
             CHECKS.same("the tag for peer " + peer, d.atHand(4, 7), "4200" + Desk.hex(peer + 1));
         }
         for (int peer = 9; peer >= 0; peer--) {
-            CHECKS.same("again of peer " + peer, ask(d, GET, 7, "b").served(peer), peer == 0 ? 65 : 68);
+            CHECKS.same("again of peer " + peer, d.ask(GET, 7, "b").served(peer), peer == 0 ? 65 : 68);
             CHECKS.same("what was sent to it", d.atHand(4, 7), "4200" + Desk.hex(peer + 1));
         }
         CHECKS.same("counts", d.totals(), "1 10 10 10 0");
@@ -257,19 +249,19 @@ public final class ServerEdgesTest {
     private static void sentAgain() {
         CHECKS.sentence("THE SERVER: what was sent for that one is sent again");
         Desk d = new Desk();
-        ask(d, PUT, 1, "a").counted(400).served(0);
+        d.ask(PUT, 1, "a").counted(400).served(0);
         d.desk.begin(1, GET, 2, 0x0807060504030201L, 8);
         CHECKS.same("the longest answer", d.path("a").option(23, "06").served(0), 69);
         CHECKS.same("how long it is", d.desk.total(0), 419);
-        ask(d, PUT, 3, "a").payload("new").served(0);
-        ask(d, DELETE, 4, "a").served(0);
+        d.ask(PUT, 3, "a").payload("new").served(0);
+        d.ask(DELETE, 4, "a").served(0);
         CHECKS.same("again, for a reading of nothing", d.begun(0, 31, 2).served(0), 69);
         CHECKS.same("as long", d.desk.total(0), 419);
         CHECKS.same("its head, token, tag and block", d.atHand(0, 19), "58450000" + "0102030405060708" + "420001" + "d10606" + "ff");
         CHECKS.same("its contents", d.atHand(19, 22) + d.atHand(417, 419), "000102" + "8e8f");
         String[] answers = {"", "60410001420001", "", "60440003420002", "60420004"};
         for (int id : new int[] {1, 3, 4}) {
-            ask(d, POST, id, "a").served(0);
+            d.ask(POST, id, "a").served(0);
             CHECKS.same("ID " + id, d.atHand(), answers[id]);
         }
     }
@@ -295,7 +287,7 @@ public final class ServerEdgesTest {
         CHECKS.sentence("THE SERVER: of type 2 with the ID, if the request is of type 0; else of type 1 with an ID of the server's own");
         for (int id : new int[] {0, 255, 256, 65535}) {
             Desk d = new Desk();
-            ask(d, PUT, id, "a").served(0);
+            d.ask(PUT, id, "a").served(0);
             CHECKS.same("type 0", d.atHand(0, 4), "6041" + Desk.hexOfTwo(id));
             d.begun(1, PUT, id).path("a").served(1);
             CHECKS.same("type 1", d.atHand(0, 4), "50440000");
@@ -349,15 +341,17 @@ public final class ServerEdgesTest {
         for (int number = 0; number <= 40; number++) {
             boolean known = number == 1 || number == 5 || number == 11 || number == 15 || number == 23;
             Desk d = new Desk();
-            ask(d, PUT, 1, "").served(0);
-            ask(d, GET, 2, "").option(number, "").served(0);
+            d.ask(PUT, 1, "").served(0);
+            d.ask(GET, 2, "").option(number, "").served(0);
             int due = number == 11 ? 132 : number % 2 == 0 || known ? 69 : 130;
             CHECKS.same("option " + number, d.desk.hand(1), due);
         }
-        int[][] rows = {{255, 130}, {256, 132}, {257, 130}, {267, 130}, {32767, 130}, {32768, 132}, {65533, 130}, {65534, 132}, {65535, 130}};
+        int[][] rows = {
+            {255, 130}, {256, 132}, {257, 130}, {267, 130}, {32767, 130}, {32768, 132}, {65533, 130}, {65534, 132}, {65535, 130},
+        };
         for (int[] row : rows) {
-            CHECKS.same("option " + row[0], ask(new Desk(), GET, 2, "").option(row[0], "").served(0), row[1]);
-            Desk last = ask(new Desk(), GET, 2, "a");
+            CHECKS.same("option " + row[0], new Desk().ask(GET, 2, "").option(row[0], "").served(0), row[1]);
+            Desk last = new Desk().ask(GET, 2, "a");
             for (int k = 0; k < 18; k++) {
                 last.option(4, "");
             }
@@ -371,16 +365,16 @@ public final class ServerEdgesTest {
         for (int code = GET; code <= DELETE; code++) {
             int[] due = {0, 132, 132, 65, 66};
             Desk d = new Desk();
-            CHECKS.same("once, code " + code, ask(d, code, 1, "a").option(5, "").served(0), due[code]);
-            CHECKS.same("twice, code " + code, ask(d, code, 2, "b").option(5, "").option(5, "").served(0), 130);
-            CHECKS.same("with a value, code " + code, ask(d, code, 3, "c").option(5, "").option(5, "07").served(0), 130);
-            CHECKS.same("three times, code " + code, ask(d, code, 4, "d").option(5, "").option(5, "").option(5, "").served(0), 130);
-            CHECKS.same("once and a 23, code " + code, ask(d, code, 5, "e").option(5, "").option(23, "").served(0), due[code]);
+            CHECKS.same("once, code " + code, d.ask(code, 1, "a").option(5, "").served(0), due[code]);
+            CHECKS.same("twice, code " + code, d.ask(code, 2, "b").option(5, "").option(5, "").served(0), 130);
+            CHECKS.same("with a value, code " + code, d.ask(code, 3, "c").option(5, "").option(5, "07").served(0), 130);
+            CHECKS.same("three times, code " + code, d.ask(code, 4, "d").option(5, "").option(5, "").option(5, "").served(0), 130);
+            CHECKS.same("once and a 23, code " + code, d.ask(code, 5, "e").option(5, "").option(23, "").served(0), due[code]);
         }
         Desk d = new Desk();
-        CHECKS.same("the others twice", ask(d, PUT, 1, "a/b").option(15, "").option(15, "").served(0), 65);
+        CHECKS.same("the others twice", d.ask(PUT, 1, "a/b").option(15, "").option(15, "").served(0), 65);
         CHECKS.same("options 1 and 4 twice",
-            ask(d, PUT, 2, "a/b").option(1, "").option(1, "").option(4, "").option(4, "").served(0), 68);
+            d.ask(PUT, 2, "a/b").option(1, "").option(1, "").option(4, "").option(4, "").served(0), 68);
     }
 
     private static void blockTwice() {
@@ -388,9 +382,9 @@ public final class ServerEdgesTest {
         for (int code = GET; code <= DELETE; code++) {
             int[] due = {0, 132, 132, 65, 66};
             Desk d = new Desk();
-            CHECKS.same("once, code " + code, ask(d, code, 1, "a").option(23, "").served(0), due[code]);
-            CHECKS.same("twice, code " + code, ask(d, code, 2, "b").option(23, "").option(23, "").served(0), 130);
-            CHECKS.same("two numbers, code " + code, ask(d, code, 3, "c").option(23, "06").option(23, "16").served(0), 130);
+            CHECKS.same("once, code " + code, d.ask(code, 1, "a").option(23, "").served(0), due[code]);
+            CHECKS.same("twice, code " + code, d.ask(code, 2, "b").option(23, "").option(23, "").served(0), 130);
+            CHECKS.same("two numbers, code " + code, d.ask(code, 3, "c").option(23, "06").option(23, "16").served(0), 130);
         }
     }
 
@@ -405,11 +399,11 @@ public final class ServerEdgesTest {
         };
         for (Object[] row : rows) {
             Desk d = new Desk();
-            CHECKS.same("PUT with " + row[0], ask(d, PUT, 1, "a").option(23, (String) row[0]).served(0), (Integer) row[1]);
+            CHECKS.same("PUT with " + row[0], d.ask(PUT, 1, "a").option(23, (String) row[0]).served(0), (Integer) row[1]);
             CHECKS.same("resources", d.desk.total(1), (Integer) row[1] == 65 ? 1 : 0);
-            CHECKS.same("DELETE with " + row[0], ask(d, DELETE, 2, "a").option(23, (String) row[0]).served(0),
+            CHECKS.same("DELETE with " + row[0], d.ask(DELETE, 2, "a").option(23, (String) row[0]).served(0),
                 (Integer) row[1] == 65 ? 66 : 130);
-            CHECKS.same("GET with " + row[0], ask(d, GET, 3, "a").option(23, (String) row[0]).served(0),
+            CHECKS.same("GET with " + row[0], d.ask(GET, 3, "a").option(23, (String) row[0]).served(0),
                 (Integer) row[1] == 65 ? 132 : 130);
         }
     }
@@ -418,13 +412,13 @@ public final class ServerEdgesTest {
         CHECKS.sentence("THE SERVER: 130, or a 1 whose value is longer than 8");
         for (int n : new int[] {0, 1, 7, 8, 9, 10, 400}) {
             Desk d = new Desk();
-            ask(d, PUT, 1, "a").served(0);
-            CHECKS.same("GET with a 1 of " + n, ask(d, GET, 2, "a").longOption(1, n).served(0), n > 8 ? 130 : 69);
-            CHECKS.same("PUT with a 1 of " + n, ask(d, PUT, 3, "a").longOption(1, n).served(0), n > 8 ? 130 : n == 0 ? 68 : 140);
-            CHECKS.same("and one that is met", ask(d, PUT, 4, "a").option(1, "").longOption(1, n).served(0), n > 8 ? 130 : 68);
-            CHECKS.same("a 4 of " + n, ask(d, GET, 5, "a").longOption(4, n).served(0), 69);
-            CHECKS.same("a 5 of " + n, ask(d, GET, 6, "a").longOption(5, n).served(0), 69);
-            CHECKS.same("a 15 of " + n, ask(d, GET, 7, "a").longOption(15, n).served(0), 69);
+            d.ask(PUT, 1, "a").served(0);
+            CHECKS.same("GET with a 1 of " + n, d.ask(GET, 2, "a").longOption(1, n).served(0), n > 8 ? 130 : 69);
+            CHECKS.same("PUT with a 1 of " + n, d.ask(PUT, 3, "a").longOption(1, n).served(0), n > 8 ? 130 : n == 0 ? 68 : 140);
+            CHECKS.same("and one that is met", d.ask(PUT, 4, "a").option(1, "").longOption(1, n).served(0), n > 8 ? 130 : 68);
+            CHECKS.same("a 4 of " + n, d.ask(GET, 5, "a").longOption(4, n).served(0), 69);
+            CHECKS.same("a 5 of " + n, d.ask(GET, 6, "a").longOption(5, n).served(0), 69);
+            CHECKS.same("a 15 of " + n, d.ask(GET, 7, "a").longOption(15, n).served(0), 69);
         }
     }
 
@@ -432,14 +426,14 @@ public final class ServerEdgesTest {
         CHECKS.sentence("THE SERVER: 133, if the code is above 4");
         for (int code = 1; code <= 31; code++) {
             Desk d = new Desk();
-            ask(d, PUT, 1, "a").payload("x").served(0);
+            d.ask(PUT, 1, "a").payload("x").served(0);
             int[] due = {0, 69, 68, 68, 66};
-            CHECKS.same("code " + code, ask(d, code, 2, "a").served(0), code > 4 ? 133 : due[code]);
+            CHECKS.same("code " + code, d.ask(code, 2, "a").served(0), code > 4 ? 133 : due[code]);
             if (code > 4) {
                 CHECKS.same("what is sent", d.atHand(), "60850002");
                 CHECKS.same("nothing is changed", d.resources(), "1:1:1");
                 CHECKS.same("it is a request", d.totals(), "1 1 2 0 0");
-                CHECKS.same("conditions don't count", ask(d, code, 3, "a").option(1, "0009").option(5, "").served(0), 133);
+                CHECKS.same("conditions don't count", d.ask(code, 3, "a").option(1, "0009").option(5, "").served(0), 133);
             }
         }
     }
@@ -447,17 +441,17 @@ public final class ServerEdgesTest {
     private static void firstThatFits() {
         CHECKS.sentence("THE SERVER: a code and what comes with it, the first that fits");
         Desk d = new Desk();
-        ask(d, PUT, 1, "a").payload("x").served(0);
-        CHECKS.same("130 before 133", ask(d, 5, 2, "a").option(7, "").served(1), 130);
-        CHECKS.same("130 before 132", ask(d, GET, 3, "z").option(7, "").served(1), 130);
-        CHECKS.same("130 before 67", ask(d, GET, 4, "a").option(4, "0001").option(23, "07").served(1), 130);
-        CHECKS.same("130 before 140", ask(d, PUT, 5, "a").option(5, "").option(5, "").served(1), 130);
-        CHECKS.same("133 before 132", ask(d, 5, 6, "z").served(1), 133);
-        CHECKS.same("133 before 140", ask(d, 5, 7, "a").option(5, "").served(1), 133);
-        CHECKS.same("132 before a block beyond the end", ask(d, GET, 8, "z").option(23, "16").served(1), 132);
-        CHECKS.same("67 before a block beyond the end", ask(d, GET, 9, "a").option(4, "0001").option(23, "16").served(1), 67);
-        CHECKS.same("a block beyond the end", ask(d, GET, 10, "a").option(4, "0002").option(23, "16").served(1), 130);
-        CHECKS.same("140 before 132", ask(d, POST, 11, "z").option(1, "").served(1), 140);
+        d.ask(PUT, 1, "a").payload("x").served(0);
+        CHECKS.same("130 before 133", d.ask(5, 2, "a").option(7, "").served(1), 130);
+        CHECKS.same("130 before 132", d.ask(GET, 3, "z").option(7, "").served(1), 130);
+        CHECKS.same("130 before 67", d.ask(GET, 4, "a").option(4, "0001").option(23, "07").served(1), 130);
+        CHECKS.same("130 before 140", d.ask(PUT, 5, "a").option(5, "").option(5, "").served(1), 130);
+        CHECKS.same("133 before 132", d.ask(5, 6, "z").served(1), 133);
+        CHECKS.same("133 before 140", d.ask(5, 7, "a").option(5, "").served(1), 133);
+        CHECKS.same("132 before a block beyond the end", d.ask(GET, 8, "z").option(23, "16").served(1), 132);
+        CHECKS.same("67 before a block beyond the end", d.ask(GET, 9, "a").option(4, "0001").option(23, "16").served(1), 67);
+        CHECKS.same("a block beyond the end", d.ask(GET, 10, "a").option(4, "0002").option(23, "16").served(1), 130);
+        CHECKS.same("140 before 132", d.ask(POST, 11, "z").option(1, "").served(1), 140);
         CHECKS.same("nothing is changed by all that", d.resources(), "1:1:1");
         CHECKS.same("the counts", d.totals(), "1 1 11 0 0");
     }
