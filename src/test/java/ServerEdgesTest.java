@@ -1,4 +1,4 @@
-/** The edges that promises 13, 15 and 16, RESOURCES and THE SERVER name: one method for each sentence. */
+/** The edges of promise 13 and of what THE SERVER does before it looks for a resource: one method for each sentence. */
 public final class ServerEdgesTest {
     private static final Checks CHECKS = new Checks();
     private static final int GET = 1;
